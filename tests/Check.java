@@ -1,0 +1,182 @@
+import java.util.NoSuchElementException;
+
+/** What the tests share: texts that are fed, answers that are compared, exceptions told by numbers. */
+public final class Check {
+    private Check() {
+    }
+
+    private static int wrong = 0;
+    private static int asked = 0;
+
+    /** Tells an answer that is not the one that is due. */
+    public static void due(String call, long got, long want) {
+        asked++;
+        if (got != want) {
+            wrong++;
+            System.out.println(call + " answered " + got + ", due is " + want);
+        }
+    }
+
+    public static void due(String call, boolean got, boolean want) {
+        due(call, got ? 1 : 0, want ? 1 : 0);
+    }
+
+    public static void due(String call, String got, String want) {
+        asked++;
+        if (!got.equals(want)) {
+            wrong++;
+            System.out.println(call + " answered \"" + got + "\", due is \"" + want + "\"");
+        }
+    }
+
+    /** Ends a test: with exit code 1 if an answer was wrong. */
+    public static void end() {
+        System.out.println(wrong == 0 ? "all " + asked + " answers are as due" : wrong + " answers are not as due");
+        if (wrong != 0) {
+            System.exit(1);
+        }
+    }
+
+    /** Feeds bytes, twenty at a time. */
+    public static void feed(ChainHouse x, byte[] bytes) {
+        for (int from = 0; from < bytes.length; from += 20) {
+            int[] five = new int[5];
+            for (int k = 0; k < 20; k++) {
+                int b = from + k < bytes.length ? bytes[from + k] & 255 : 0;
+                five[k / 4] |= b << 24 - 8 * (k % 4);
+            }
+            x.feed(five[0], five[1], five[2], five[3], five[4]);
+            if (x.end(Math.min(20, bytes.length - from)) < 0) {
+                throw new IllegalStateException("the text is too long for the test");
+            }
+        }
+    }
+
+    public static void feed(ChainHouse x, String text) {
+        feed(x, text.getBytes(java.nio.charset.StandardCharsets.ISO_8859_1));
+    }
+
+    public static final int INDEX = -1001;
+    public static final int ARGUMENT = -1002;
+    public static final int STATE = -1003;
+    public static final int ELEMENT = -1004;
+
+    /** What assemble() answers, or the number of its exception. */
+    public static int assemble(ChainHouse x, int unit, String text) {
+        feed(x, text);
+        return assemble(x, unit);
+    }
+
+    public static int assemble(ChainHouse x, int unit) {
+        try {
+            return x.assemble(unit);
+        } catch (IndexOutOfBoundsException e) {
+            return INDEX;
+        } catch (IllegalArgumentException e) {
+            return ARGUMENT;
+        }
+    }
+
+    /** A text must have a fault at a place. */
+    public static void fault(String text, int number, int place) {
+        ChainHouse x = new ChainHouse();
+        due("assemble of " + shown(text), assemble(x, 0, text), ARGUMENT);
+        due("fault(0) of " + shown(text), x.fault(0), number);
+        due("fault(1) of " + shown(text), x.fault(1), place);
+        due("size(0) of " + shown(text), x.size(0), 0);
+    }
+
+    /** A text must assemble, to an object that can be read. */
+    public static ChainHouse good(String text) {
+        ChainHouse x = new ChainHouse();
+        int n = assemble(x, 0, text);
+        due("assemble of " + shown(text) + " is no fault (fault " + x.fault(0) + " at " + x.fault(1) + ")", n > 0, true);
+        due("fault(0) of " + shown(text), x.fault(0), 0);
+        due("fault(1) of " + shown(text), x.fault(1), -1);
+        if (n > 0) {
+            due("size(0) of " + shown(text), x.size(0), n);
+            due("check(0) of " + shown(text), x.check(0), 0);
+        }
+        return x;
+    }
+
+    private static String shown(String text) {
+        String one = text.replace("\n", "\\n");
+        return one.length() > 60 ? one.substring(0, 57) + "..." : one;
+    }
+
+    public static int check(ChainHouse x, int unit) {
+        try {
+            return x.check(unit);
+        } catch (IndexOutOfBoundsException e) {
+            return INDEX;
+        }
+    }
+
+    public static int link(ChainHouse x, int set, boolean shrinks) {
+        try {
+            return x.link(set, shrinks);
+        } catch (IllegalArgumentException e) {
+            return ARGUMENT;
+        } catch (IllegalStateException e) {
+            return STATE;
+        }
+    }
+
+    /** A link must have a fault. */
+    public static void linkFault(ChainHouse x, int set, boolean shrinks, int fault, int unit, int number) {
+        due("link", link(x, set, shrinks), STATE);
+        due("linked(0)", x.linked(0), fault);
+        due("linked(1)", x.linked(1), unit);
+        due("linked(2)", x.linked(2), number);
+    }
+
+    private static long half(String name, int from) {
+        long v = 0;
+        for (int k = 0; k < 8; k++) {
+            v = v << 8 | (from + k < name.length() ? name.charAt(from + k) : 0);
+        }
+        return v;
+    }
+
+    public static int where(ChainHouse x, String name) {
+        try {
+            return x.where(half(name, 0), half(name, 8));
+        } catch (NoSuchElementException e) {
+            return ELEMENT;
+        }
+    }
+
+    /** OUT for an address. */
+    public static String told(ChainHouse x, int at) {
+        int n = x.tell(at);
+        StringBuilder s = new StringBuilder();
+        for (int k = 0; k < n; k++) {
+            s.append((char) x.letter(k));
+        }
+        return s.toString();
+    }
+
+    /** Links unit 0 (with the others of a set) and loads the image. */
+    public static void linkAndLoad(ChainHouse x, int set, boolean shrinks) {
+        int n = link(x, set, shrinks);
+        due("link is no fault (" + x.linked(0) + ", unit " + x.linked(1) + ", number " + x.linked(2) + ")", n > 0, true);
+        due("load()", x.load(), 0);
+    }
+
+    /** A number of a file. */
+    public static int number(ChainHouse x, int k, int at, int width) {
+        int v = 0;
+        for (int j = width - 1; j >= 0; j--) {
+            v = v << 8 | x.byteAt(k, at + j);
+        }
+        return v;
+    }
+
+    /** Changes a number of a file. */
+    public static void put(ChainHouse x, int k, int at, int width, int v) {
+        for (int j = 0; j < width; j++) {
+            x.spoil(k, at + j, v >> 8 * j);
+        }
+    }
+}
