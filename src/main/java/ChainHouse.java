@@ -2627,8 +2627,8 @@ public final class ChainHouse {
         private static final int RA = 1;
         private static final int SP = 2;
         private static final int T1 = 6;
-        private static final int LOWEST = 0x80000000;
-        private static final int HIGHEST = 0x7fffffff;
+        private static final long LOWEST = -0x80000000L;
+        private static final long HIGHEST = 0x7fffffffL;
 
         int fault;
         int place = NONE;
@@ -3057,11 +3057,11 @@ public final class ChainHouse {
             }
         }
 
-        private static int leastOf(int directive) {
+        private static long leastOf(int directive) {
             return directive == EQU ? LOWEST : directive == COMM ? 1 : 0;
         }
 
-        private static int greatestOf(int directive) {
+        private static long greatestOf(int directive) {
             return directive == EQU ? HIGHEST : directive == ALIGN ? 6 : 4096;
         }
 
@@ -3078,7 +3078,7 @@ public final class ChainHouse {
         }
 
         /** The number of a PLAIN operand within bounds; 0 with a FAULT. */
-        private int plain(int o, int least, int greatest) {
+        private int plain(int o, long least, long greatest) {
             if (scope.fault != 0 || !scope.evaluate(o)) {
                 return 0;
             }
