@@ -221,7 +221,7 @@ public final class ChainHouse {
     }
 
     public int peek(int at) {
-        return at >= 0 && at < Machine.MEMORY ? machine.memory[at] & 255 : NONE;
+        return machine.byteOf(at);
     }
 
     public boolean input(int n, long eight) {
@@ -1092,16 +1092,12 @@ public final class ChainHouse {
             return c >= 32 && c <= 126 && c != quote ? c : NONE;
         }
 
-        int lengthWithin(int from) {
-            return text.one(from) == '\\' ? 2 : 1;
-        }
-
         private int readQuoted(int from, int quote) {
             int to = from + 1;
             int value = NONE;
             while (to < text.length() && byteWithin(to, quote) != NONE) {
                 value = byteWithin(to, quote);
-                to += lengthWithin(to);
+                to += text.one(to) == '\\' ? 2 : 1;
                 if (quote == '\'') {
                     break;
                 }
@@ -2441,6 +2437,9 @@ public final class ChainHouse {
 
         /** Works out the VALUE of an operand's EXPRESSION; false with a FAULT. */
         boolean evaluate(int o) {
+            if (o < 0 || o >= source.operandCount) {
+                return false;
+            }
             int from = source.operands[Source.FIRST][o];
             int to = from + source.operands[Source.COUNT][o];
             int at = source.operands[Source.PLACE][o];
@@ -3153,7 +3152,7 @@ public final class ChainHouse {
             for (int o = first; o < first + n && scope.fault == 0; o++) {
                 int from = ofOperand(Source.FIRST, o);
                 int to = from + ofOperand(Source.COUNT, o);
-                for (int k = from; k < to; k += source.lengthWithin(k)) {
+                for (int k = from; k < to; k += source.text.one(k) == '\\' ? 2 : 1) {
                     put(source.byteWithin(k, '"'), 1);
                 }
                 if (zero) {
@@ -3741,7 +3740,8 @@ public final class ChainHouse {
         private static final int WAS_TAKEN = 11;
         private static final int COLUMNS = 12;
 
-        final byte[] memory = new byte[MEMORY];
+        /** Memory, four bytes in each, the lowest address lowest. */
+        private final int[] memory = new int[MEMORY / 4];
         /** Registers 0 .. 31 and PC. */
         final int[] registers = new int[PC + 1];
         final Bytes output = new Bytes(OUTPUT_ROOM);
@@ -3764,7 +3764,7 @@ public final class ChainHouse {
 
         /** Becomes a new machine with an image in it. */
         void renew(Image image) {
-            for (int k = 0; k < MEMORY; k++) {
+            for (int k = 0; k < MEMORY / 4; k++) {
                 memory[k] = 0;
             }
             for (int k = 0; k <= PC; k++) {
@@ -3810,12 +3810,17 @@ public final class ChainHouse {
             return at >= 0 && offset >= 0 && (offset & 1) == 0 && offset / 2 < Image.MARKS && marks[offset / 2];
         }
 
+        /** The byte at an address; NONE beyond memory. */
+        int byteOf(int at) {
+            return at >= 0 && at < MEMORY ? memory[at >> 2] >>> 8 * (at & 3) & 255 : NONE;
+        }
+
         /** A number in memory, without sign; bytes beyond it are 0. */
         private int read(int at, int width) {
             int v = 0;
             for (int k = width - 1; k >= 0; k--) {
                 int j = at + k;
-                v = v << 8 | (j >= 0 && j < MEMORY ? memory[j] & 255 : 0);
+                v = v << 8 | (j >= 0 && j < MEMORY ? memory[j >> 2] >>> 8 * (j & 3) & 255 : 0);
             }
             return v;
         }
@@ -3824,7 +3829,8 @@ public final class ChainHouse {
             for (int k = 0; k < width; k++) {
                 int j = at + k;
                 if (j >= 0 && j < MEMORY) {
-                    memory[j] = (byte) (v >> 8 * k);
+                    int shift = 8 * (j & 3);
+                    memory[j >> 2] = memory[j >> 2] & ~(255 << shift) | (v >> 8 * k & 255) << shift;
                 }
             }
         }
@@ -4697,11 +4703,11 @@ public final class ChainHouse {
         }
 
         private int whereOf(int definer) {
-            return objects[definer / Contents.SYMBOLS].symbols[Contents.WHERE][definer % Contents.SYMBOLS];
+            return definer < 0 ? Contents.NOWHERE : objects[definer / Contents.SYMBOLS].symbols[Contents.WHERE][definer % Contents.SYMBOLS];
         }
 
         private int valueOf(int definer) {
-            return objects[definer / Contents.SYMBOLS].symbols[Contents.VALUE][definer % Contents.SYMBOLS];
+            return definer < 0 ? 0 : objects[definer / Contents.SYMBOLS].symbols[Contents.VALUE][definer % Contents.SYMBOLS];
         }
 
         private static int partOf(int u, int section) {
