@@ -179,4 +179,63 @@ public final class Check {
             x.spoil(k, at + j, v >> 8 * j);
         }
     }
+
+    /** The row of the IMAGE's TABLE with a sort and rights; -1 without one. */
+    public static int imageRow(ChainHouse x, int sort, int rights) {
+        for (int k = 0; k < number(x, -1, 44, 2); k++) {
+            int row = number(x, -1, 28, 4) + 32 * k;
+            if (number(x, -1, row, 4) == sort && number(x, -1, row + 24, 4) == rights) {
+                return row;
+            }
+        }
+        return -1;
+    }
+
+    /** Puts the right SUM into the IMAGE. */
+    public static void fixSum(ChainHouse x) {
+        java.util.zip.CRC32 sum = new java.util.zip.CRC32();
+        update(x, sum, 24, 4);
+        for (int rights : new int[] {5, 4, 6}) {
+            int row = imageRow(x, 1, rights);
+            if (row >= 0) {
+                int n = number(x, -1, row + 16, 4);
+                int more = number(x, -1, row + 20, 4) - n;
+                update(x, sum, row + 8, 4);
+                for (int k = 0; k < 4; k++) {
+                    sum.update(more >> 8 * k);
+                }
+                update(x, sum, number(x, -1, row + 4, 4), n);
+            }
+        }
+        int note = number(x, -1, imageRow(x, 4, 4) + 4, 4);
+        update(x, sum, note + 28, (number(x, -1, imageRow(x, 1, 5) + 16, 4) + 15) / 16);
+        put(x, -1, note + 24, 4, (int) sum.getValue());
+    }
+
+    private static void update(ChainHouse x, java.util.zip.CRC32 sum, int at, int n) {
+        for (int k = 0; k < n; k++) {
+            sum.update(x.byteAt(-1, at + k));
+        }
+    }
+
+    /** Puts bytes as the IMAGE or a FILE. */
+    public static void setFile(ChainHouse x, int k, byte[] bytes) {
+        due("cut", x.cut(k, 0), true);
+        for (int from = 0; from < bytes.length; from += 8) {
+            long eight = 0;
+            for (int j = 0; j < 8; j++) {
+                eight = eight << 8 | (from + j < bytes.length ? bytes[from + j] & 255 : 0);
+            }
+            due("extend", x.extend(k, Math.min(8, bytes.length - from), eight), true);
+        }
+    }
+
+    /** All bytes of the IMAGE or a FILE. */
+    public static byte[] file(ChainHouse x, int k) {
+        byte[] bytes = new byte[x.size(k)];
+        for (int i = 0; i < bytes.length; i++) {
+            bytes[i] = (byte) x.byteAt(k, i);
+        }
+        return bytes;
+    }
 }
