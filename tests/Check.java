@@ -238,4 +238,48 @@ public final class Check {
         }
         return bytes;
     }
+
+    /** The READ object's symbols: name, where, value, size, bind. */
+    public static String symbols(ChainHouse x) {
+        StringBuilder s = new StringBuilder();
+        for (int k = 0; k < x.object(4, 0, 1); k++) {
+            for (int c = 0; c < x.object(2, k, 5); c++) {
+                s.append((char) x.object(2, k, 6 + c));
+            }
+            for (int what = 0; what < 4; what++) {
+                s.append(' ').append(x.object(2, k, what));
+            }
+            s.append("; ");
+        }
+        return s.toString().trim();
+    }
+
+    /** The READ object's relocations: section, place, kind, symbol, addend. */
+    public static String relocations(ChainHouse x) {
+        StringBuilder s = new StringBuilder();
+        for (int k = 0; k < x.object(4, 0, 2); k++) {
+            for (int what = 0; what < 5; what++) {
+                s.append(x.object(3, k, what)).append(what < 4 ? " " : "; ");
+            }
+        }
+        return s.toString().trim();
+    }
+
+    public static String starts(ChainHouse x) {
+        StringBuilder s = new StringBuilder();
+        for (int k = 0; k < x.object(4, 0, 0); k++) {
+            s.append(x.object(1, k, 0)).append(' ');
+        }
+        return s.toString().trim();
+    }
+
+    /** The bytes of a section of unit 0's FILE, in hexadecimal; the FILE is as it is written. */
+    public static String bytes(ChainHouse x, int section) {
+        int row = number(x, 0, 32, 4) + 40 * (section + 1);
+        StringBuilder s = new StringBuilder();
+        for (int k = 0; k < number(x, 0, row + 20, 4); k++) {
+            s.append(String.format("%02x", x.byteAt(0, number(x, 0, row + 16, 4) + k)));
+        }
+        return s.toString();
+    }
 }
