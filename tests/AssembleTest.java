@@ -414,7 +414,7 @@ public final class AssembleTest {
         }
         Check.good(labels + "x:");
         Check.fault(labels + "x: y:", 18, labels.length() + 3);
-        Check.fault(labels + "x: .word 1f, @".replace(", @", ""), 18, labels.length() + 3);
+        Check.fault(labels + "x: .word 1f", 18, labels.length() + 3);
         Check.fault(labels + "x: .word .", 18, labels.length() + 3);
         Check.fault(labels + "la a0, x", 18, labels.length());
         Check.fault(labels + "x: .word 1, y, 1 / 0", 18, labels.length() + 3);
