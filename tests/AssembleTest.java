@@ -57,6 +57,9 @@ public final class AssembleTest {
         due(".data\n.zero 3\na:\n.bss\n.zero 9\nb:\n.rodata\nc:", "a 2 3 0 0; b 3 9 0 0; c 1 0 0 0;", "");
         // hidden ones, as they come
         due("1: 2: 1:", "$0 0 0 0 0; $1 0 0 0 0; $2 0 0 0 0;", "");
+        ChainHouse many = Check.good("1: ".repeat(12) + "2:");
+        String all = Check.symbols(many);
+        Check.due("the last hidden ones", all.substring(all.indexOf("$9")), "$9 0 0 0 0; $10 0 0 0 0; $11 0 0 0 0; $12 0 0 0 0;");
         due(".word 2f, 1f, 2f\n1: 2: 2: .word 2b, ., 1b", "$0 0 12 0 0; $1 0 12 0 0; $2 0 12 0 0; $3 0 12 0 0;",
             "0 0 1 0 0; 0 4 1 1 0; 0 8 1 0 0; 0 12 1 2 0; 0 16 1 3 0; 0 20 1 1 0;");
         due(".word ., . + 4, x", "$0 0 0 0 0; x -1 0 0 1;", "0 0 1 0 0; 0 4 1 0 4; 0 8 1 1 0;");
@@ -355,6 +358,9 @@ public final class AssembleTest {
         Check.fault("c.lwsp a0, 254(sp)", 15, 11);
         Check.fault("c.beqz t0, x", 15, 7);
         Check.fault("c.sub a0, t0", 15, 10);
+        Check.fault("c.sub a0, a6", 15, 10);
+        Check.fault("c.sub t2, a0", 15, 6);
+        Check.good("c.sub a5, s0");
         Check.fault("beq a0, a1, 4", 14, 12);
         Check.fault("j 4", 14, 2);
         Check.fault("j x - y", 14, 2);

@@ -12,6 +12,7 @@ public final class LinkTest {
         shrinkNear();
         shrinkUpper();
         fills();
+        emptyFill();
         settle();
         data();
         targets();
@@ -269,6 +270,21 @@ public final class LinkTest {
         fault(8, 1, 1, START + "nop", ".word x\n.byte 1\n.align 2\n.byte 2\nx:", ".byte 1\n.align 2");
     }
 
+    /** A 43 with addend 0 is nothing, wherever it is. */
+    private static void emptyFill() {
+        ChainHouse x = units(START + "call _start\n.align 2\nnop");
+        int rela = Check.number(x, 0, Check.number(x, 0, 32, 4) + 40 * 6 + 16, 4);
+        Check.due("the 43", Check.number(x, 0, rela + 24 + 4, 1), 43);
+        Check.put(x, 0, rela + 24 + 8, 4, 0);
+        Check.linkAndLoad(x, 1, true);
+        told(x, 65536, "c.jal 0x10000", "c.nop", "c.nop");
+        Check.put(x, 0, rela + 24, 4, 3);
+        Check.linkAndLoad(x, 1, true);
+        Check.put(x, 0, rela + 24 + 8, 4, 2);
+        Check.put(x, 0, rela + 24, 4, 4);
+        Check.linkFault(x, 1, true, 7, 0, 2);
+    }
+
     private static void due(ChainHouse x, int... bytes) {
         for (int k = 0; k < bytes.length; k++) {
             Check.due("byte " + k, x.peek(65536 + k), bytes[k]);
@@ -344,9 +360,19 @@ public final class LinkTest {
         told(x, 65536, "lui a0, 0x10", "addi a0, a0, 16", "sw a0, 20(a0)", "jalr a0, 16(a0)");
         x = linked(true, START + "lui a0, %hi(k)\nlw a0, %lo(k)(a0)\nsw a1, %lo(k)(a0)\n.globl k\n.equ k, -2048");
         told(x, 65536, "lui a0, 0x0", "lw a0, -2048(zero)", "sw a1, -2048(zero)");
-        ChainHouse y = units(START + "nop\naddi a0, a0, %lo(d)\n.data\nd:");
-        spoilText(y, 0, 2, 0x00051513);
-        Check.linkFault(y, 1, true, 7, 0, 0);
+        // words that are not of the kind: slli, and loads and stores exchanged
+        for (int bad : new int[] {0x00051513, 0x00052023, 0x00000037, 0x00b50533, 0x0ff0000f}) {
+            ChainHouse y = units(START + "nop\naddi a0, a0, %lo(d)\n.data\nd:");
+            spoilText(y, 0, 2, bad);
+            Check.linkFault(y, 1, true, 7, 0, 0);
+        }
+        for (int bad : new int[] {0x00052503, 0x00050513, 0x00b50533, 0x00051063}) {
+            ChainHouse y = units(START + "nop\nsw a0, %lo(d)(a0)\n.data\nd:");
+            spoilText(y, 0, 2, bad);
+            Check.linkFault(y, 1, true, 7, 0, 0);
+        }
+        // all kinds that a 27 and a 28 can be about
+        linked(true, START + "lb a0, %lo(d)(a0)\nlhu a0, %lo(d)(a0)\nandi a0, a0, %lo(d)\njalr a0, %lo(d)(a0)\nsb a0, %lo(d)(a0)\nsw a0, %lo(d)(a0)\n.data\nd:");
     }
 
     private static void nearLows() {

@@ -19,6 +19,7 @@ public final class MachineTest {
         sets();
         inputs();
         longRuns();
+        shorts();
         Check.end();
     }
 
@@ -537,5 +538,41 @@ public final class MachineTest {
         x.halt(BASE + 4 + 2 * 4, true);
         Check.due("run", x.run(2000), 1);
         state(x, 9, BASE + 12);
+    }
+
+    private static final String[] SHORTS = {"c.addi4spn a0, sp, 16", "addi a0, sp, 16", "c.lw a0, 4(a1)", "lw a0, 4(a1)", "c.sw a0, 4(a1)", "sw a0, 4(a1)",
+        "c.nop", "addi zero, zero, 0", "c.addi a0, -3", "addi a0, a0, -3", "c.jal f", "jal ra, f", "c.li a0, -3", "addi a0, zero, -3",
+        "c.addi16sp sp, 32", "addi sp, sp, 32", "c.lui a0, 0xfffe1", "lui a0, 0xfffe1", "c.srli a0, 3", "srli a0, a0, 3", "c.srai a0, 3", "srai a0, a0, 3",
+        "c.andi a0, -2", "andi a0, a0, -2", "c.sub a0, a1", "sub a0, a0, a1", "c.xor a0, a1", "xor a0, a0, a1", "c.or a0, a1", "or a0, a0, a1",
+        "c.and a0, a1", "and a0, a0, a1", "c.j f", "jal zero, f", "c.beqz a0, f", "beq a0, zero, f", "c.bnez a0, f", "bne a0, zero, f",
+        "c.slli a0, 5", "slli a0, a0, 5", "c.lwsp a0, 4(sp)", "lw a0, 4(sp)", "c.jr a2", "jalr zero, 0(a2)", "c.mv a0, a1", "add a0, zero, a1",
+        "c.ebreak", "ebreak", "c.jalr a2", "jalr ra, 0(a2)", "c.add a0, a1", "add a0, a0, a1", "c.swsp a0, 4(sp)", "sw a0, 4(sp)"};
+
+    /** Each short word works as the long one for which it stands, but for how many bytes it has. */
+    private static void shorts() {
+        for (int k = 0; k < SHORTS.length; k += 2) {
+            for (int a0 : new int[] {0, -77, 0x7ffffff0}) {
+                ChainHouse x = shortMachine(SHORTS[k], a0);
+                ChainHouse y = shortMachine(".option norvc\n" + SHORTS[k + 1] + "\n.option rvc", a0);
+                Check.due("step of " + SHORTS[k], x.step(), y.step());
+                for (int r = 0; r < 32; r++) {
+                    boolean link = r == 1 && y.get(1) == BASE + 4;
+                    Check.due(SHORTS[k] + ", register " + r, x.get(r), link ? BASE + 2 : y.get(r));
+                }
+                Check.due(SHORTS[k] + ", PC", x.get(32), y.get(32) == BASE + 4 ? BASE + 2 : y.get(32));
+                for (int at = BASE + 16; at < BASE + 32; at++) {
+                    Check.due(SHORTS[k] + ", memory", x.peek(at), y.peek(at));
+                }
+            }
+        }
+    }
+
+    private static ChainHouse shortMachine(String instruction, int a0) {
+        ChainHouse x = machine(instruction + "\n.align 3\nf: nop\n.data\n.word 1, -2, 3, 4");
+        x.set(10, a0);
+        x.set(11, BASE + 16);
+        x.set(2, BASE + 20);
+        x.set(12, BASE + 8);
+        return x;
     }
 }

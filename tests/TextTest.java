@@ -192,6 +192,18 @@ public final class TextTest {
     private static void expressions() {
         value("1 | 6 ^ 3 & 2 << 1 + 2 * 3", 1 | 6 ^ 3 & 2 << 1 + 2 * 3);
         value("2 * 3 + 4 << 1 & 127 ^ 1 | 64", 2 * 3 + 4 << 1 & 127 ^ 1 | 64);
+        value("1 + 2 * 3", 7);
+        value("2 * 3 + 1", 7);
+        value("7 - 6 / 3", 5);
+        value("9 - 7 % 4", 6);
+        value("1 << 2 + 1", 8);
+        value("1 + 2 << 1", 6);
+        value("16 >> 5 - 3", 4);
+        value("12 & 1 << 2", 4);
+        value("3 ^ 1 & 2", 3);
+        value("1 & 2 ^ 3", 3);
+        value("5 | 4 ^ 4", 5);
+        value("4 ^ 4 | 5", 5);
         value("100 - 10 - 1", 89);
         value("100 / 10 / 2", 5);
         value("100 % 30 % 7", 3);
