@@ -51,6 +51,7 @@ public final class AssembleTest {
         due("b: a: nop\nc:\n.globl a\n.weak d\n.globl e", "b 0 0 0 0; c 0 2 0 0; a 0 0 0 1; d -1 0 0 2; e -1 0 0 1;", "");
         due(".word x, y, x", "x -1 0 0 1; y -1 0 0 1;", "0 0 1 0 0; 0 4 1 1 0; 0 8 1 0 0;");
         due(".globl a\n.weak a\na:", "a 0 0 0 2;", "");
+        due("abcdefgh: abcdefghi: abcdefghijklmnop: .abcdefghijklmno: nop\n.globl abcdefghijklmno", "abcdefgh 0 0 0 0; abcdefghi 0 0 0 0; abcdefghijklmnop 0 0 0 0; .abcdefghijklmno 0 0 0 0; abcdefghijklmno -1 0 0 1;", "");
         due(".weak a\n.globl a\n.comm a, 12, 4", "a 5 4 12 1;", "");
         due(".comm a, 4096, 64", "a 5 64 4096 1;", "");
         due(".equ a, -5\n.globl a\n.equ b, 7", "b 4 7 0 0; a 4 -5 0 1;", "");
@@ -176,6 +177,12 @@ public final class AssembleTest {
         Check.due("bytes", Check.bytes(x, 0), "2e95" + "3305b500" + "2e95" + "2e95");
         due("call f\n.option norelax\ncall f\n.option push\n.option relax\ncall f\n.option pop\ncall f", "f -1 0 0 1;",
             "0 0 19 0 0; 0 0 51 -1 0; 0 8 19 0 0; 0 16 19 0 0; 0 16 51 -1 0; 0 24 19 0 0;");
+        x = Check.good(".option norvc\n.option push\n.option rvc\n.option norelax\n.option pop\nadd a0,a0,a1\ncall f");
+        Check.due("bytes", Check.bytes(x, 0), "3305b500" + "97000000e7800000");
+        Check.due("relocations", Check.relocations(x), "0 4 19 0 0; 0 4 51 -1 0;");
+        x = Check.good(".option norelax\n.option push\n.option norvc\n.option relax\n.option pop\nadd a0,a0,a1\ncall f");
+        Check.due("bytes", Check.bytes(x, 0), "2e95" + "97000000e7800000");
+        Check.due("relocations", Check.relocations(x), "0 2 19 0 0;");
         String push = ".option push\n".repeat(8);
         Check.good(push + ".option pop\n".repeat(8));
         Check.fault(push + ".option push", 17, push.length());
@@ -352,6 +359,9 @@ public final class AssembleTest {
         Check.fault("c.addi4spn a0, sp, 0", 15, 19);
         Check.fault("c.addi4spn t0, sp, 4", 15, 11);
         Check.fault("c.slli a0, 0", 15, 11);
+        Check.fault("c.slli a0, 32", 15, 11);
+        Check.fault("c.srai a0, 32", 15, 11);
+        Check.fault("c.srli a0, 0", 15, 11);
         Check.fault("c.srli t0, 1", 15, 7);
         Check.fault("c.andi a0, 32", 15, 11);
         Check.fault("c.lwsp zero, 0(sp)", 15, 7);

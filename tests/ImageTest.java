@@ -183,7 +183,8 @@ public final class ImageTest {
         due(19, ROW1 + 4, ROW1 + 4, 4, 192);
         due(19, ROW2 + 4, ROW2 + 4, 4, 208);
         due(true, 0, -1, ROW1, 4, 0, ROW2 + 4, 4, 208);
-        due(true, 0, -1, ROW1 + 16, 4, 0, ROW1 + 20, 4, 0, ROW1 + 4, 4, 192);
+        due(true, 0, -1, ROW1 + 16, 4, 0, ROW1 + 20, 4, 0, ROW1 + 4, 4, 196, ROW1 + 28, 4, 1);
+        due(true, 0, -1, ROW1 + 16, 4, 0, ROW1 + 20, 4, 0, ROW1 + 4, 4, 60, ROW1 + 28, 4, 4);
     }
 
     private static void put(byte[] bytes, int at, int v) {
@@ -218,6 +219,8 @@ public final class ImageTest {
         due(23, ROW1 + 8, ROW1 + 8, 4, 65536, ROW1 + 12, 4, 65536);
         due(23, ROW2 + 8, ROW2 + 8, 4, 65520, ROW2 + 12, 4, 65520);
         due(23, ROW2 + 8, ROW1 + 8, 4, 65568 + 96, ROW1 + 12, 4, 65568 + 96);
+        // without bytes of memory nothing is met
+        due(true, 0, -1, ROW1 + 8, 4, 65568 + 16, ROW1 + 12, 4, 65568 + 16, ROW1 + 16, 4, 0, ROW1 + 20, 4, 0);
         due(29, note + 24, ROW1 + 8, 4, 65568 + 112, ROW1 + 12, 4, 65568 + 112);
         // the one that stands behind in the TABLE: TEXT and CONST are exchanged
         byte[] bytes = good.clone();
@@ -266,6 +269,14 @@ public final class ImageTest {
         due(30, 36, 36, 4, 0);
         due(true, 30, 36, note + 28, 1, 2, 24, 4, 65538);
         due(true, 0, -1, note + 28, 1, 2, 24, 4, 65538, 36, 4, 0);
+        // a wrong mark in the second MARK BYTE, or the last one of 4096 bytes
+        ChainHouse x = Check.good(".globl _start\n_start: nop\n.zero 20\nmul a0, a0, a1\nnop");
+        Check.linkAndLoad(x, 1, true);
+        int at = Check.number(x, -1, Check.imageRow(x, 4, 4) + 4, 4);
+        Check.due("MARK BYTES", Check.number(x, -1, at + 28, 2), 1 | 1 << 11 | 1 << 13);
+        x.spoil(-1, at + 29, 1 << 3 | 1 << 4);
+        Check.due("load", x.load(), 27);
+        Check.due("place", x.place(), at + 29);
         // an odd TEXT
         due(true, 31, 24, ROW0 + 8, 4, 65537, ROW0 + 12, 4, 65537, ROW0 + 28, 4, 1, 24, 4, 65537);
     }

@@ -79,6 +79,12 @@ public final class LinkTest {
         Check.due("where", Check.where(x, "_start"), 65536);
         Check.due("where, zeros left out", x.where(0x005f007374000061L, 0x0000720000740000L), 65536);
         Check.due("where of none", Check.where(x, "_star"), Check.ELEMENT);
+        ChainHouse z = linked(true, START + "nop\n.globl abcdefgh\nabcdefgh: nop\n.globl abcdefghi\nabcdefghi: nop\n.globl abcdefghijklmnop\nabcdefghijklmnop: nop\n.globl abcdefghijklmno\nabcdefghijklmno:");
+        Check.due("where", Check.where(z, "abcdefgh"), 65538);
+        Check.due("where", Check.where(z, "abcdefghi"), 65540);
+        Check.due("where", Check.where(z, "abcdefghijklmnop"), 65542);
+        Check.due("where", Check.where(z, "abcdefghijklmno"), 65544);
+        Check.due("where", Check.where(z, "abcdefghijklm"), Check.ELEMENT);
         Check.due("where of nothing", Check.where(x, ""), Check.ELEMENT);
         // with a fault the image, the globals and what was saved stay
         Check.linkFault(x, 9, true, 1, 0, -1);
@@ -243,6 +249,9 @@ public final class LinkTest {
         // without TWO
         x = linked(true, ".option norvc\n" + START + "lui a1, %hi(f)\nf: nop");
         told(x, 65536, "lui a1, 0x10");
+        // c.lui has 1 to 31
+        x = linked(true, START + "lui a0, %hi(d + 0xf7e0)\nlui a0, %hi(d + 0xf7f0)\nnop\nlui a1, %hi(d - 0xf010)\nlui a1, %hi(d - 0xf810)\n.data\nd: .word 1");
+        told(x, 65536, "c.lui a0, 0x1f", "lui a0, 0x20", "c.nop", "c.lui a1, 0x1", "c.lui a1, 0x1");
         // V beyond an int
         fault(8, 0, 0, START + "nop\nlui a0, %hi(k + 1)\n.globl k\n.equ k, 0x7fffffff");
     }
@@ -315,6 +324,16 @@ public final class LinkTest {
         Check.due("word", word(x, 65552), 65538);
         Check.due("word", word(x, 65556), 65536);
         Check.due("word in .text", word(x, 65540), 65541);
+        // bytes that are not all in one plain piece
+        ChainHouse y = units(START + "call _start\n.word _start\ncall _start\n.word _start");
+        int rela = Check.number(y, 0, Check.number(y, 0, 32, 4) + 40 * 6 + 16, 4);
+        Check.due("the first 1", Check.number(y, 0, rela + 24 + 4, 1), 1);
+        for (int at : new int[] {0, 2, 7, 9, 11, 12, 19}) {
+            Check.put(y, 0, rela + 24, 4, at);
+            Check.linkFault(y, 1, true, 7, 0, 2);
+        }
+        Check.put(y, 0, rela + 24, 4, 20);
+        Check.linkAndLoad(y, 1, true);
         // distances are as they are behind shrinking
         x = linked(true, START + "a: call f\nf: nop\nb:\n.data\n.byte b - a");
         Check.due("byte", x.peek(65552), 4);
@@ -386,6 +405,8 @@ public final class LinkTest {
         fault(7, 0, 0, START + "addi a0, a0, %pcrel_lo(d)\n.data\nd: .word 1");
         fault(7, 0, 0, START + "addi a0, a0, %pcrel_lo(g)", ".globl g\ng: la a0, g");
         fault(7, 0, 0, START + "addi a0, a0, %pcrel_lo(g)\n.globl g\n.equ g, 0");
+        fault(7, 0, 4, START + "la a0, d\naddi a0, a0, %pcrel_lo(g)\n.data\nd: .word 1", ".globl g\ng: nop");
+        fault(7, 0, 4, START + "la a0, d\naddi a0, a0, %pcrel_lo(d)\n.data\nd: .word 1");
         // another addend than 0
         ChainHouse y = units(START + "la a0, d\n.data\nd: .word 1");
         y.check(0);

@@ -391,6 +391,40 @@ public final class ObjectTest {
         dueOf("2048 bytes", longer, 0, -1);
         put(longer, entry(1) + 20, 2049);
         dueOf("2049 bytes", longer, 19, entry(1) + 20);
+        // 1024 starts, and relocations that don't come out even or are too many: .rodata's string is another name
+        longer = java.util.Arrays.copyOf(good, 8192);
+        System.arraycopy(".starts".getBytes(), 0, longer, begin(7) + number(entry(2), 4), 7);
+        put(longer, entry(1) + 16, end);
+        put(longer, entry(1) + 20, 2048);
+        put(longer, entry(2) + 8, 0);
+        put(longer, entry(2) + 36, 2);
+        put(longer, entry(2) + 32, 2);
+        put(longer, entry(2) + 16, end + 2048);
+        put(longer, entry(2) + 20, 2048);
+        put(longer, 36, 1);
+        for (int k = 0; k < 1024; k++) {
+            longer[end + 2048 + 2 * k] = (byte) (2 * k);
+            longer[end + 2048 + 2 * k + 1] = (byte) (2 * k >> 8);
+        }
+        dueOf("1024 starts", longer, 0, -1);
+        put(longer, entry(2) + 20, 2049);
+        dueOf("an odd number of bytes of starts", longer, 19, entry(2) + 20);
+        put(longer, entry(2) + 20, 2050);
+        dueOf("1025 starts", longer, 19, entry(2) + 20);
+        ChainHouse y = Check.good(".data\n.word x");
+        good = Check.file(y, 0);
+        table = number(32, 4);
+        // entries: .text .rodata .data .bss .rela.data ..
+        longer = java.util.Arrays.copyOf(good, 8192);
+        put(longer, entry(5) + 16, good.length + 3 & ~3);
+        put(longer, entry(5) + 20, 12 * 301);
+        dueOf("301 relocations", longer, 19, entry(5) + 20);
+        put(longer, entry(5) + 20, 12 * 300);
+        dueOf("300 relocations of kind 0", longer, 29, (good.length + 3 & ~3) + 4);
+        put(longer, entry(5) + 20, 12 * 3 + 1);
+        dueOf("bytes that don't come out even", longer, 19, entry(5) + 20);
+        good = Check.file(Check.good(""), 0);
+        table = number(32, 4);
         // .symtab with 101 and 102 times 16 bytes
         longer = java.util.Arrays.copyOf(good, 4000);
         put(longer, entry(5) + 16, end);

@@ -77,6 +77,10 @@ public final class TextTest {
         value("0000000000000000000000017", 17);
         value("0x0000000000001f", 31);
         value("0b101", 5);
+        value("0xABCDEF01", 0xabcdef01);
+        value("0xabcdef01", 0xabcdef01);
+        Check.fault(".word 0xG", 3, 6);
+        Check.fault(".word 0x@", 3, 6);
         Check.fault(".word 4294967296", 3, 6);
         Check.fault(".word 99999999999999999999999999", 3, 6);
         Check.fault(".word 0x100000000", 3, 6);
