@@ -255,6 +255,7 @@ public final class AssembleTest {
         word("nop", "0100");
         word("li a0, -2048", "13050080");
         word("li a0, 2047", "1305f07f");
+        word("li a0, -2049", "7d75" + "1305f57f");
         word("li a0, 31", "7d45");
         word("li a0, 2048", "0565" + "13050580");
         word("li a0, 0x1000", "0565");

@@ -38,6 +38,8 @@ public final class BasicsTest {
         for (int k = -1; k < 35; k++) {
             Check.due("get", x.get(k), 0);
         }
+        Check.due("peek(0)", x.peek(0), 0);
+        Check.due("rights(0)", x.rights(0), 0);
         Check.due("step()", x.step(), 1);
         Check.due("state(1)", x.state(1), 0);
     }

@@ -84,6 +84,16 @@ public final class ImageTest {
             }
         }
         Check.due("THE SUM", number(note + 24, 4), (int) sum.getValue());
+        // the SUM and the NOTE of other lengths
+        for (int n = 2; n <= 70; n += 2) {
+            ChainHouse z = Check.good(".globl _start\n_start: nop\n.zero " + (n - 2));
+            Check.linkAndLoad(z, 1, true);
+            int at = Check.number(z, -1, Check.imageRow(z, 4, 4) + 4, 4);
+            Check.due("bytes of the NOTE", Check.number(z, -1, Check.imageRow(z, 4, 4) + 16, 4), 28 + ((n + 15) / 16 + 3) / 4 * 4);
+            int was = Check.number(z, -1, at + 24, 4);
+            Check.fixSum(z);
+            Check.due("the SUM", Check.number(z, -1, at + 24, 4), was);
+        }
         // without a short mark, and without CONST and DATA
         ChainHouse y = Check.good(".globl _start\n_start: ecall");
         Check.linkAndLoad(y, 1, true);
@@ -150,6 +160,7 @@ public final class ImageTest {
         due(12, ROW1 + 4, ROW1 + 4, 4, 51);
         due(12, ROW1 + 4, ROW1 + 4, 4, good.length - 2);
         due(12, ROW1 + 4, ROW1 + 4, 4, -1);
+        due(12, ROW1 + 4, ROW1 + 4, 4, 51, ROW1 + 16, 4, 1);
         due(13, ROW1 + 28, ROW1 + 28, 4, 0);
         due(13, ROW1 + 28, ROW1 + 28, 4, 3);
         due(13, ROW1 + 28, ROW1 + 28, 4, 8192);

@@ -267,6 +267,8 @@ public final class LinkTest {
         x = linked(true, START + "call f\n.align 3\nf: nop");
         told(x, 65536, "c.jal 0x10008", "addi zero, zero, 0", "c.nop", "c.nop");
         Check.due("saved: fills don't count", x.linked(4), 6);
+        x = linked(true, START + "nop\n.align 4\nnop");
+        told(x, 65536, "c.nop", "addi zero, zero, 0", "addi zero, zero, 0", "addi zero, zero, 0", "c.nop", "c.nop");
         // a fill of an odd number of bytes: 1, then 0
         x = linked(true, START + "nop\n.byte 3\n.align 2\n.byte 9, 8");
         due(x, 1, 0, 3, 1, 9, 8);
@@ -353,6 +355,23 @@ public final class LinkTest {
         // D beyond an int
         fault(8, 0, 0, ".option norelax\n" + START + "call k\n.globl k\n.equ k, 0x80000000");
         fault(8, 0, 0, ".option norelax\n" + START + "la a0, k\n.globl k\n.equ k, 0x80000000");
+        // relocations at one place are taken by their numbers
+        ChainHouse z = units(START + "call f\nla a0, d\nf: nop\n.data\nd: .word 1");
+        int rela = Check.number(z, 0, Check.number(z, 0, 32, 4) + 40 * 6 + 16, 4);
+        Check.due("the 23", Check.number(z, 0, rela + 24 + 4, 1), 23);
+        Check.put(z, 0, rela + 24, 4, 0);
+        Check.put(z, 0, rela + 36, 4, 0);
+        Check.linkFault(z, 1, true, 7, 0, 2);
+        // words that are not of the kind
+        String[] branches = {"beq a0, a1, _start", "jal _start", "c.beqz a0, _start", "c.j _start"};
+        int[][] bad = {{0x13, 0x6f, 0x67, 0x03, 0xc101}, {0x13, 0x63, 0xa001}, {0xa001, 0x8082, 0x63}, {0xc101, 0x6f, 0x8082}};
+        for (int k = 0; k < 4; k++) {
+            for (int w : bad[k]) {
+                ChainHouse b = units(START + "nop\n" + branches[k] + "\nnop");
+                spoilText(b, 0, 2, w);
+                Check.linkFault(b, 1, true, 7, 0, 0);
+            }
+        }
         // the word isn't of the kind: the second unit's relocation 0 is about another word
         ChainHouse y = units(START + "nop\nj _start");
         spoilText(y, 0, 2, 0x13);
@@ -431,6 +450,7 @@ public final class LinkTest {
         String calls = "call f\n".repeat(124);
         linked(true, START + "f: " + calls, ".globl f\n" + calls + "f: nop");
         String more = "call f\n".repeat(125);
+        linked(true, START + "f: " + more, ".globl f\n" + calls + "f: nop");
         fault(6, -1, -1, START + "f: " + more, ".globl f\n" + more + "f: nop");
         StringBuilder labels = new StringBuilder();
         for (int k = 0; k < 64; k++) {

@@ -300,6 +300,15 @@ public final class ObjectTest {
         due(0, -1, e + 4, 4, -1, e + 8, 4, 0x7fffffff);
         due(26, e + 8, e + 8, 4, 0x80000000);
         due(27, l2, l2, 4, number(g, 4));
+        ChainHouse x = Check.good("a: b: nop\n.globl a\n.globl b");
+        int second = Check.number(x, 0, Check.number(x, 0, 32, 4) + 40 * 6 + 16, 4) + 32;
+        Check.due("bind", x.spoil(0, second + 12, 0), 16);
+        Check.due("check", x.check(0), 24);
+        Check.due("place", x.object(5, 0, 0), second + 12);
+        x.spoil(0, second + 12, 17);
+        Check.due("check", x.check(0), 0);
+        Check.due("type", x.object(2, 1, 4), 1);
+        Check.due("type", x.object(2, 0, 4), 0);
         due(0, -1, first + 32, 4, number(l, 4));
         due(0, -1, l2 + 12, 1, 33);
     }

@@ -54,6 +54,7 @@ public final class TextTest {
         Check.fault("nop\n .bcdefghijklmnopq", 2, 5);
         Check.fault(".word 1, aaaaaaaaaaaaaaaa$", 2, 9);
         Check.good("_a.$0: .b: A$:");
+        Check.good("aZ: zA: Z: A: Zz9: a0$:");
         Check.fault("$a:", 1, 0);
         Check.fault("a$b@", 1, 3);
         Check.good("x32: x01: x00: fp1:\n.word x32, x01");
