@@ -9,15 +9,20 @@ public final class AnyCallsTest {
         ".option norvc", ".option rvc", ".option norelax", ".option relax", ".option push", ".option pop", ".weak f", ".comm c, 8, 8", ".equ k, 5 + 3", "bnez a0, f",
         "c.beqz a0, f", "c.j g", "mul a0, a1, a2", "div a0, a0, a1", ".asciz \"ab\\n\"", "foo", "add a0", "li a0, (", "'", "\"", "%", "2: j 2f", ".globl d", "# x", "jr a0", "lw a1, 0(gp)", "sw a1, 4(gp)"};
 
+    private static final String[] RUNNING = {"nop", "call f", "la a0, d", "lw a0, d", "sw a0, d, t0", "lui a0, %hi(d)\naddi a0, a0, %lo(d)", ".align 3", "li a7, 1", "ecall",
+        "call g", ".data\n.word d, f, _start - g\n.text", ".option push\n.option norvc\nmul a0, a0, a1\n.option pop", "bnez a0, f", "li a7, 3", "sub a1, a1, a0", "jal t0, f"};
+    /** The first turns, so that there is something to link, to load and to run. */
+    private static final int[] BEGIN = {2, 3, 19, 20, 21, 25, 31};
+
     public static void main(String[] args) {
         int[] counts = new int[4];
-        for (int seed = 0; seed < 400; seed++) {
+        for (int seed = 0; seed < 3000; seed++) {
             object(new Random(seed), counts);
         }
         Check.due("enough was assembled", counts[0] > 300, true);
-        Check.due("enough was linked", counts[1] > 100, true);
-        Check.due("enough was loaded", counts[2] > 100, true);
-        Check.due("enough steps were taken back", counts[3] > 100, true);
+        Check.due("enough was linked", counts[1] > 300, true);
+        Check.due("enough was loaded", counts[2] > 300, true);
+        Check.due("enough steps were taken back", counts[3] > 300, true);
         Check.end();
     }
 
@@ -25,7 +30,19 @@ public final class AnyCallsTest {
         return r.nextInt(8) == 0 ? r.nextInt() : INTS[r.nextInt(INTS.length)];
     }
 
+    /** A text that can be linked alone and runs. */
+    private static String runs(Random r) {
+        StringBuilder s = new StringBuilder(".globl _start\n_start: nop\n");
+        for (int k = r.nextInt(9); k > 0; k--) {
+            s.append(RUNNING[r.nextInt(RUNNING.length)]).append('\n');
+        }
+        return s + "f: addi a0, a0, 1\nli a7, 1\necall\nj _start\ng: ret\n.data\nd: .word 1, 2";
+    }
+
     private static String text(Random r) {
+        if (r.nextInt(3) == 0) {
+            return runs(r);
+        }
         StringBuilder s = new StringBuilder(r.nextInt(2) == 0 ? ".globl _start\n_start: nop\n" : "");
         for (int k = r.nextInt(12); k > 0; k--) {
             s.append(LINES[r.nextInt(r.nextInt(6) == 0 ? LINES.length : 40)]).append('\n');
@@ -37,10 +54,21 @@ public final class AnyCallsTest {
         return s.toString();
     }
 
+    /** How many calls of the object one turn makes at most. */
+    private static int most(int which) {
+        if (which >= 2 && which <= 5) {
+            return 70;
+        }
+        return which == 31 ? 150 : which >= 19 && which <= 22 ? 6 : 2;
+    }
+
+    /** An object is used for 512 calls at most. */
     private static void object(Random r, int[] counts) {
         ChainHouse x = new ChainHouse();
-        for (int call = 0; call < 480; call++) {
-            int which = r.nextInt(40);
+        int left = 512;
+        int turn = 0;
+        int which = 2;
+        while (left >= most(which)) {
             try {
                 one(x, r, which, counts);
             } catch (RuntimeException e) {
@@ -48,6 +76,9 @@ public final class AnyCallsTest {
                 e.printStackTrace();
                 return;
             }
+            left -= most(which);
+            turn++;
+            which = turn < BEGIN.length ? BEGIN[turn] : r.nextInt(40);
         }
     }
 
@@ -98,6 +129,7 @@ public final class AnyCallsTest {
     private static void assemble(ChainHouse x, Random r, int[] counts) {
         x.take(5);
         String text = text(r);
+        text = text.substring(0, Math.min(text.length(), 560));
         int n = Check.assemble(x, r.nextInt(3), text);
         Check.due("a fault is told", n == Check.ARGUMENT, x.fault(0) != 0);
         Check.due("a place is told", n == Check.ARGUMENT, x.fault(1) >= 0 && x.fault(1) <= text.length());
@@ -131,7 +163,7 @@ public final class AnyCallsTest {
         for (int k = 0; k < 7; k++) {
             s.append(x.state(k)).append(' ');
         }
-        for (int k = 0; k < 200; k++) {
+        for (int k = 0; k < 30; k++) {
             s.append(x.peek(65536 + k)).append(' ');
         }
         return s.toString();

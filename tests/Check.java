@@ -37,15 +37,19 @@ public final class Check {
         }
     }
 
-    /** Feeds bytes, twenty at a time. */
+    /** Feeds bytes, twenty at a time; zeros wait without being fed. */
     public static void feed(ChainHouse x, byte[] bytes) {
         for (int from = 0; from < bytes.length; from += 20) {
             int[] five = new int[5];
+            int any = 0;
             for (int k = 0; k < 20; k++) {
                 int b = from + k < bytes.length ? bytes[from + k] & 255 : 0;
                 five[k / 4] |= b << 24 - 8 * (k % 4);
+                any |= b;
             }
-            x.feed(five[0], five[1], five[2], five[3], five[4]);
+            if (any != 0) {
+                x.feed(five[0], five[1], five[2], five[3], five[4]);
+            }
             if (x.end(Math.min(20, bytes.length - from)) < 0) {
                 throw new IllegalStateException("the text is too long for the test");
             }
@@ -218,10 +222,16 @@ public final class Check {
         }
     }
 
-    /** Puts bytes as the IMAGE or a FILE. */
+    /** Puts bytes as the IMAGE or a FILE; of a FILE the first 3000 come by the TEXT, which takes fewer calls. */
     public static void setFile(ChainHouse x, int k, byte[] bytes) {
-        due("cut", x.cut(k, 0), true);
-        for (int from = 0; from < bytes.length; from += 8) {
+        int first = k < 0 ? 0 : Math.min(bytes.length, 3000);
+        if (k < 0) {
+            due("cut", x.cut(k, 0), true);
+        } else {
+            feed(x, java.util.Arrays.copyOf(bytes, first));
+            due("take", x.take(k), first);
+        }
+        for (int from = first; from < bytes.length; from += 8) {
             long eight = 0;
             for (int j = 0; j < 8; j++) {
                 eight = eight << 8 | (from + j < bytes.length ? bytes[from + j] & 255 : 0);
@@ -230,13 +240,43 @@ public final class Check {
         }
     }
 
-    /** All bytes of the IMAGE or a FILE. */
-    public static byte[] file(ChainHouse x, int k) {
+    /** All bytes of the IMAGE or a FILE, from as many equal objects as are needed: each is used for 512 calls at most. */
+    public static byte[] file(java.util.function.Supplier<ChainHouse> made, int k) {
+        ChainHouse x = made.get();
         byte[] bytes = new byte[x.size(k)];
+        int left = 300;
         for (int i = 0; i < bytes.length; i++) {
+            if (left == 0) {
+                x = made.get();
+                left = 300;
+            }
             bytes[i] = (byte) x.byteAt(k, i);
+            left--;
         }
         return bytes;
+    }
+
+    /** A number in the bytes of a file. */
+    public static int number(byte[] bytes, int at, int width) {
+        int v = 0;
+        for (int k = width - 1; k >= 0; k--) {
+            v = v << 8 | bytes[at + k] & 255;
+        }
+        return v;
+    }
+
+    /** Changes a number in the bytes of a file. */
+    public static void put(byte[] bytes, int at, int width, int v) {
+        for (int k = 0; k < width; k++) {
+            bytes[at + k] = (byte) (v >> 8 * k);
+        }
+    }
+
+    /** An object with a FILE or IMAGE of these bytes. */
+    public static ChainHouse withFile(int k, byte[] bytes) {
+        ChainHouse x = new ChainHouse();
+        setFile(x, k, bytes);
+        return x;
     }
 
     /** The READ object's symbols: name, where, value, size, bind. */

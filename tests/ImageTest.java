@@ -54,9 +54,11 @@ public final class ImageTest {
     }
 
     private static void written() {
-        ChainHouse x = Check.good(TEXT);
-        Check.linkAndLoad(x, 1, true);
-        good = Check.file(x, -1);
+        good = Check.file(() -> {
+            ChainHouse x = Check.good(TEXT);
+            Check.linkAndLoad(x, 1, true);
+            return x;
+        }, -1);
         int[][] head = {{16, 2, 2}, {18, 2, 243}, {20, 4, 1}, {24, 4, 65536}, {28, 4, 52}, {32, 4, 0}, {36, 4, 1}, {40, 2, 52}, {42, 2, 32}, {44, 2, 4}, {46, 2, 0}, {48, 4, 0}};
         for (int[] h : head) {
             Check.due("number at " + h[0], number(h[0], h[1]), h[2]);
@@ -175,12 +177,6 @@ public final class ImageTest {
         due(15, ROW1 + 8, ROW1 + 8, 4, -16);
         due(16, ROW1 + 12, ROW1 + 12, 4, 65568);
         due(16, ROW1 + 12, ROW1 + 8, 4, 65568);
-        byte[] longer = java.util.Arrays.copyOf(good, 8192);
-        put(longer, ROW1 + 4, 512);
-        put(longer, ROW1 + 16, 4097);
-        dueOf("4097 bytes", longer, false, 17, ROW1 + 16);
-        put(longer, ROW1 + 16, 4096);
-        dueOf("4096 bytes", longer, false, 18, ROW1 + 20);
         due(18, ROW1 + 20, ROW1 + 20, 4, 4);
         due(18, ROW1 + 20, ROW1 + 20, 4, 2);
         due(18, ROW0 + 20, ROW0 + 20, 4, 9);

@@ -41,7 +41,7 @@ public final class ObjectTest {
 
     private static void written() {
         ChainHouse x = Check.good(TEXT);
-        good = Check.file(x, 0);
+        good = Check.file(() -> Check.good(TEXT), 0);
         table = number(32, 4);
         int[] head = {127, 69, 76, 70, 1, 1, 1, 0, 0, 0, 0, 0, 0, 0, 0, 0, 1, 0, 243, 0, 1, 0, 0, 0, 0, 0, 0, 0, 0, 0, 0, 0};
         for (int k = 0; k < head.length; k++) {
@@ -236,10 +236,9 @@ public final class ObjectTest {
         due(17, entry(9) + 36, entry(9) + 36, 4, 12);
         due(28, entry(9) + 28, entry(9) + 28, 4, 6);
         // what an info tells is missing: .rodata is called .starts
-        ChainHouse x = Check.good(".rodata\n.word x");
         byte[] keep = good;
         int keepTable = table;
-        good = Check.file(x, 0);
+        good = Check.file(() -> Check.good(".rodata\n.word x"), 0);
         table = number(32, 4);
         // entries: .text .rodata .data .bss .rela.rodata .symtab .strtab .shstrtab
         int name = begin(8) + number(entry(2), 4);
@@ -360,7 +359,7 @@ public final class ObjectTest {
         Check.due("entries", Check.number(x, 0, 48, 2), 8);
         Check.due("starts", Check.number(x, 0, 36, 4), 0);
         // 18: without .strtab; 19 and 20
-        good = Check.file(x, 0);
+        good = Check.file(() -> Check.good(""), 0);
         table = number(32, 4);
         // entries: .text .rodata .data .bss .symtab .strtab .shstrtab
         missing();
@@ -401,7 +400,7 @@ public final class ObjectTest {
         put(longer, entry(1) + 20, 2049);
         dueOf("2049 bytes", longer, 19, entry(1) + 20);
         // 1024 starts, and relocations that don't come out even or are too many: .rodata's string is another name
-        longer = java.util.Arrays.copyOf(good, 8192);
+        longer = java.util.Arrays.copyOf(good, 4700);
         System.arraycopy(".starts".getBytes(), 0, longer, begin(7) + number(entry(2), 4), 7);
         put(longer, entry(1) + 16, end);
         put(longer, entry(1) + 20, 2048);
@@ -420,11 +419,10 @@ public final class ObjectTest {
         dueOf("an odd number of bytes of starts", longer, 19, entry(2) + 20);
         put(longer, entry(2) + 20, 2050);
         dueOf("1025 starts", longer, 19, entry(2) + 20);
-        ChainHouse y = Check.good(".data\n.word x");
-        good = Check.file(y, 0);
+        good = Check.file(() -> Check.good(".data\n.word x"), 0);
         table = number(32, 4);
         // entries: .text .rodata .data .bss .rela.data ..
-        longer = java.util.Arrays.copyOf(good, 8192);
+        longer = java.util.Arrays.copyOf(good, 4300);
         put(longer, entry(5) + 16, good.length + 3 & ~3);
         put(longer, entry(5) + 20, 12 * 301);
         dueOf("301 relocations", longer, 19, entry(5) + 20);
@@ -432,7 +430,7 @@ public final class ObjectTest {
         dueOf("300 relocations of kind 0", longer, 29, (good.length + 3 & ~3) + 4);
         put(longer, entry(5) + 20, 12 * 3 + 1);
         dueOf("bytes that don't come out even", longer, 19, entry(5) + 20);
-        good = Check.file(Check.good(""), 0);
+        good = Check.file(() -> Check.good(""), 0);
         table = number(32, 4);
         // .symtab with 101 and 102 times 16 bytes
         longer = java.util.Arrays.copyOf(good, 4000);
