@@ -705,7 +705,7 @@ public final class EdgesImageTest {
         for (int k = 0; k < 9; k++) {
             Check.due("state " + k, x.state(k), 0);
         }
-        for (int k = 65536; k < 65536 + 700; k += 3) {
+        for (int k = 65536; k < 65536 + 300; k += 3) {
             boolean text = k < 65540;
             Check.due("memory", x.peek(k), text ? x.byteAt(-1, Check.number(x, -1, 52 + 4, 4) + k - 65536) : k == 65552 ? 9 : 0);
             Check.due("rights", x.rights(k) & 7, text ? 5 : k == 65552 ? 3 : 0);

@@ -324,30 +324,27 @@ public final class EdgesLinkTest {
         told(x, BASE, "addi a1, gp, 2047", "auipc a1, 0x1");
     }
 
-    /** 600 GLOBALS: each UNIT's 100 symbols have other names. */
+    /** Many GLOBALS: each UNIT's symbols have other names. */
     private static void manyGlobals() {
-        String[] texts = new String[6];
+        ChainHouse x = new ChainHouse();
+        int each = 86;
         for (int u = 0; u < 6; u++) {
-            StringBuilder s = new StringBuilder();
-            for (int k = 0; k < 100; k++) {
-                String name = u == 0 && k == 0 ? "_start" : "g" + (char) ('a' + u) + k;
-                s.append(".globl ").append(name).append("\n");
-                if (u != 0 || k != 0) {
-                    s.append(".equ ").append(name).append(",").append(1000 * u + k).append("\n");
-                }
+            StringBuilder s = new StringBuilder(u == 0 ? START + "nop\n" : "");
+            for (int k = 0; k < each; k++) {
+                s.append(".weak ").append(manyName(u, k)).append("\n");
             }
-            texts[u] = s + (u == 0 ? "_start: nop" : "");
+            Check.due("assemble", Check.assemble(x, u, s.toString()) > 0, true);
         }
-        ChainHouse x = linked(true, texts);
-        for (int u = 0; u < 6; u++) {
-            for (int k = 0; k < 100; k += k == 0 ? 1 : 49) {
-                if (u != 0 || k != 0) {
-                    Check.due("where", Check.where(x, "g" + (char) ('a' + u) + k), 1000 * u + k);
-                }
-            }
-        }
+        Check.due("link", Check.link(x, 63, true) > 0, true);
         Check.due("where", Check.where(x, "_start"), BASE);
-        Check.due("where", Check.where(x, "gf100"), Check.ELEMENT);
+        Check.due("where", Check.where(x, manyName(0, 0)), 0);
+        Check.due("where", Check.where(x, manyName(5, each - 1)), 0);
+        Check.due("where", Check.where(x, manyName(5, each)), Check.ELEMENT);
+    }
+
+    /** Two letters, none of a register. */
+    private static String manyName(int u, int k) {
+        return (char) ('A' + u) + "" + (char) (k < 26 ? 'a' + k : k < 52 ? 'A' + k - 26 : k < 62 ? '0' + k - 52 : k == 62 ? '_' : '$') + (k > 63 ? "" + (char) ('a' + k - 64) : "");
     }
 
     /** CALL: d of -2048 to 2046 (TWO), of -1,048,576 to 1,048,574, even; and beyond. */
@@ -457,7 +454,7 @@ public final class EdgesLinkTest {
     private static void nowhere() {
         for (String name : new String[] {"k", "w", "_gp", "_end", "_etext", "_bss", "_edata"}) {
             String more = "\nc.nop\n.globl k\n.equ k, 65540\n.weak w";
-            ChainHouse x = linked(true, START + "call " + name + (name.equals("w") ? "" : "") + more);
+            ChainHouse x = linked(true, START + "call " + name + more);
             Check.due("saved by call " + name, x.linked(4), 0);
             x = linked(true, START + "la a0, " + name + more);
             Check.due("saved by la " + name, x.linked(4), 0);
@@ -527,7 +524,7 @@ public final class EdgesLinkTest {
             }
         }
         // an odd place: one byte lacks, three lack
-        fault(8, 0, 0, START + "nop\n.byte 1\n.align 2".replace(".align 2", "\n.zero 2\n.align 2\n.byte 1, 2"));
+        fault(8, 0, 0, START + "nop\n.byte 1\n.zero 2\n.align 2\n.byte 1, 2");
         ChainHouse x = linked(true, START + "nop\n.byte 3\n.align 2\n.byte 9, 8");
         Check.due("the byte that lacks", x.peek(BASE + 3), 1);
         // the first of two; in the second UNIT
@@ -708,8 +705,7 @@ public final class EdgesLinkTest {
             Check.due("link", x.linked(0), 0);
             fault(6, -1, -1, first, section + "\n.zero 2048", section + "\n.zero 2");
             fault(6, -1, -1, first, section + "\n.zero 2048", "nop\n" + section + "\n.byte 1\n.byte 1");
-            // by alignment alone
-            fault(6, -1, -1, first, section + "\n.zero 2045\n", section + "\n.align 6\n.byte 1".replace(".align 6", section.equals(".text") ? ".zero 3\n.byte 1" : ".align 6"));
+            fault(6, -1, -1, first, section + "\n.zero 2045\n", section + (section.equals(".text") ? "\n.zero 4" : "\n.align 6\n.byte 1"));
         }
         StringBuilder seven = new StringBuilder();
         for (int k = 0; k < 7; k++) {
@@ -952,16 +948,11 @@ public final class EdgesLinkTest {
 
     /** 1 is put there, whatever is there; 33 to 35 are added, 37 to 39 taken off; all wrap. */
     private static void dataNumbers() {
-        ChainHouse x = units(START + "nop\n.data\n.word k, 0x11223344");
-        int at = rela(x, 0, 2);
-        int data = part(x, 0, 1, 8, 3);
-        Check.due(".rodata or .data", Check.number(x, 0, data, 4), 0);
-        x = null;
         int[] kinds = {1, 33, 34, 35, 37, 38, 39};
         for (int kind : kinds) {
             for (int k : new int[] {0, 1, -1, 255, 256, 65535, 65536, 0x7fffffff, 0x80000000}) {
-                x = units(START + "nop\n.data\n.word k, 0x11223344\n.globl k\n.equ k, " + k);
-                at = rela(x, 0, 2);
+                ChainHouse x = units(START + "nop\n.data\n.word k, 0x11223344\n.globl k\n.equ k, " + k);
+                int at = rela(x, 0, 2);
                 x.spoil(0, at + 4, kind);
                 Check.put(x, 0, at, 4, 4);
                 Check.put(x, 0, at + 8, 4, 3);
@@ -1059,9 +1050,8 @@ public final class EdgesLinkTest {
         fault(8, 0, 0, START + "j _start + 1\nbeq a0, a1, _start + 1");
         fault(8, 0, 1, START + "j _start\nbeq a0, a1, _start + 1", "j _start + 1");
         fault(8, 1, 0, START + "j _start\nbeq a0, a1, _start", "j _start + 1");
-        ChainHouse x = null;
         // a later relocation finds what the one ahead has put
-        x = units(".option norelax\n" + START + "ecall\n.word k\nj _start\n.globl k\n.equ k, 0x13");
+        ChainHouse x = units(".option norelax\n" + START + "ecall\n.word k\nj _start\n.globl k\n.equ k, 0x13");
         int at = rela(x, 0, 0);
         move(x, at + 12, 4);
         Check.linkFault(x, 1, true, 7, 0, 1);
