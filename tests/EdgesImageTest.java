@@ -101,6 +101,9 @@ public final class EdgesImageTest {
                 due(9, at, at, 4, number(at, 4) ^ 1 << bit);
             }
         }
+        for (int version : new int[] {0, 2, 3, -1}) {
+            due(9, 20, 20, 4, version);
+        }
         for (int at : new int[] {40, 42, 46, 48, 50}) {
             for (int bit = 0; bit < 16; bit++) {
                 due(9, at, at, 2, number(at, 2) ^ 1 << bit);
@@ -293,6 +296,10 @@ public final class EdgesImageTest {
         System.arraycopy(good, 192, byFour, 196, 8);
         dueOf("by 4 they are the same", byFour, true, 0, -1);
         dueOf("rest 1", altered(bytes, ROW0 + 4, 4, 201), false, 13, ROW0 + 28);
+        byte[] restFour = altered(good, ROW0 + 4, 4, 196, ROW0 + 8, 4, 65540, ROW0 + 12, 4, 65540, 24, 4, 65540);
+        System.arraycopy(good, 192, restFour, 196, 8);
+        dueOf("rests of 4", restFour, true, 0, -1);
+        dueOf("rest 4 and rest 12", altered(restFour, ROW0 + 4, 4, 188), false, 13, ROW0 + 28);
         // a NOTE begins at a multiple of 4
         byte[] longer = Arrays.copyOf(good, good.length + 4);
         System.arraycopy(good, NOTE, longer, NOTE + 4, 32);
@@ -722,6 +729,34 @@ public final class EdgesImageTest {
         Check.due("load", x.load(), 0);
         Check.due("STATE", x.state(0), 0);
         Check.due("CULPRIT", x.state(1), 0);
+        // what was taken of INPUT
+        ChainHouse z = linked(".globl _start\n_start: li a7, 2\necall\necall");
+        z.input(3, 0x0102030000000000L);
+        z.run(3);
+        Check.due("left", z.state(6), 1);
+        Check.due("load", z.load(), 0);
+        Check.due("none left", z.state(6), 0);
+        z.run(3);
+        Check.due("GET of nothing", z.get(10), -1);
+        Check.due("load", z.load(), 0);
+        z.input(2, 0x0708000000000000L);
+        Check.due("left", z.state(6), 2);
+        z.run(2);
+        Check.due("GET", z.get(10), 7);
+        // memory's first and last bytes
+        for (int at : new int[] {0, 4, 104856, 104860, 131064}) {
+            z = Check.withFile(-1, altered(good, ROW2 + 28, 4, 1, ROW2 + 8, 4, at, ROW2 + 12, 4, at, ROW2 + 20, 4, 8));
+            Check.fixSum(z);
+            Check.due("load", z.load(), 0);
+            Check.due("a byte", z.peek(at), 5);
+            Check.due("a byte", z.peek(at + 4), 6);
+            Check.put(z, -1, ROW2, 4, 0);
+            Check.fixSum(z);
+            Check.due("load", z.load(), 0);
+            for (int k = 0; k < 8; k++) {
+                Check.due("memory is 0", z.peek(at + k), 0);
+            }
+        }
         // memory that was stored to, far up
         ChainHouse y = new ChainHouse();
         Check.assemble(y, 0, ".globl _start\n_start: sb a1, 0(a0)\nj _start\n.bss\n.zero 4096\n.comm c, 4096, 1\n.comm e, 4096, 1");

@@ -545,8 +545,17 @@ public final class EdgesLinkTest {
         Check.linkAndLoad(x, 1, true);
         told(x, BASE, "c.jal 0x10008", "addi a0, gp, -2048", "c.nop", "c.nop");
         Check.due("saved", x.linked(4), 10);
+        // three that stand the other way round
+        x = units(START + "call f\nla a0, d\ncall f\nc.nop\nf: nop\n.data\nd: .word 1");
+        // 19, 51, 23, 51, 24, 51, 19, 51
+        at = rela(x, 0, 0);
+        swap(x, at, at + 72);
+        Check.linkAndLoad(x, 1, true);
+        Check.due("saved", x.linked(4), 16);
+        told(x, BASE, "c.jal 0x1000a", "addi a0, gp, -2048", "c.jal 0x1000a", "c.nop", "c.nop");
         // a 51 as the first relocation
         x = units(text);
+        at = rela(x, 0, 0);
         swap(x, at, at + 12);
         Check.due("the 51 is the first", x.byteAt(0, at + 4), 51);
         Check.linkAndLoad(x, 1, true);
@@ -665,6 +674,9 @@ public final class EdgesLinkTest {
                 fault(6, -1, -1, texts[0], calls.repeat(125), "");
             }
         }
+        // an empty .text is a piece with 0 bytes
+        linked(true, f + "call f\n".repeat(124) + "nop", "call f\n".repeat(121), "");
+        fault(6, -1, -1, f + "call f\n".repeat(124) + "nop", "call f\n".repeat(122), "");
         // FILLS: 1 + 125 + 3 and 124 + 3
         String fills = ".align 2\n";
         linked(true, START + "nop\n" + fills.repeat(125), fills.repeat(124));
@@ -1076,6 +1088,13 @@ public final class EdgesLinkTest {
             Check.linkFault(x, 2, true, 5, -1, -1);
             Check.linkFault(x, 4, true, 1, 2, -1);
         }
+        // a NUMBER, then none
+        Check.assemble(x, 2, "nop\nj _start + 1");
+        Check.linkFault(x, 5, true, 8, 2, 0);
+        Check.due("link", Check.link(x, 1, true) > 0, true);
+        Check.due("linked(0)", x.linked(0), 0);
+        Check.due("linked(1)", x.linked(1), -1);
+        Check.due("linked(2)", x.linked(2), -1);
         // with a 51, then without
         Check.assemble(x, 0, START + "call f\nla a0, d\nf: nop\n.data\nd: .word 1");
         Check.link(x, 1, true);

@@ -99,6 +99,9 @@ public final class EdgesObjectTest {
                 due(9, at, at, 4, number(at, 4) ^ 1 << bit);
             }
         }
+        for (int version : new int[] {0, 2, 3, -1}) {
+            due(9, 20, 20, 4, version);
+        }
         for (int at : new int[] {40, 42, 44, 46}) {
             for (int bit = 0; bit < 16; bit++) {
                 due(9, at, at, 2, number(at, 2) ^ 1 << bit);

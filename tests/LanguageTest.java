@@ -1,32 +1,91 @@
+import java.lang.reflect.Constructor;
+import java.lang.reflect.Field;
+import java.lang.reflect.Method;
+import java.lang.reflect.Modifier;
 import java.nio.charset.StandardCharsets;
 import java.nio.file.Files;
 import java.nio.file.Path;
-import java.util.HashSet;
-import java.util.List;
 import java.util.Set;
+import java.util.TreeSet;
 import java.util.regex.Matcher;
 import java.util.regex.Pattern;
 
-/** The rules of LANGUAGE.md that can be seen in the lines of the class. */
+/** The face of the document, and the rules of LANGUAGE.md that can be seen from outside or in single words. */
 public final class LanguageTest {
-    private static final Set<String> FACE = Set.of("feed", "end", "assemble", "fault", "take", "extend", "cut", "spoil", "size", "byteAt", "check", "object",
-        "link", "linked", "where", "load", "place", "step", "run", "back", "set", "get", "peek", "input", "halt", "state", "output", "rights", "tell", "letter");
-    private static final Pattern METHOD = Pattern.compile("^( {4}| {8})((?:public |private |static |final )*)(?:[\\w\\[\\]<>]+ )?(\\w+)\\(([^)]*)\\)( throws [^{]*)? \\{$");
-    private static final Pattern CLASS = Pattern.compile("^(?: {4}private static|public) final class (\\w+) \\{$");
-    private static final Pattern FIELD = Pattern.compile("^ {4,8}((?:public |private |static |final )*)[\\w\\[\\]<>]+ (\\w+)( = .*)?;$");
+    private static final String[] FACE = {"assemble(int):int", "back(int):int", "byteAt(int,int):int", "check(int):int", "cut(int,int):boolean", "end(int):int",
+        "extend(int,int,long):boolean", "fault(int):int", "feed(int,int,int,int,int):void", "get(int):int", "halt(int,boolean):boolean", "input(int,long):boolean", "letter(int):int",
+        "link(int,boolean):int", "linked(int):int", "load():int", "object(int,int,int):int", "output(int):int", "peek(int):int", "place():int", "rights(int):int", "run(int):int",
+        "set(int,int):boolean", "size(int):int", "spoil(int,int,int):int", "state(int):int", "step():int", "take(int):int", "tell(int):int", "where(long,long):int"};
+    private static final Set<String> IMPORTS = Set.of("java.util.NoSuchElementException", "java.util.ArrayList", "java.util.List", "java.util.Arrays", "java.util.Iterator");
+    private static final Set<String> THROWN = Set.of("IllegalStateException", "IllegalArgumentException", "IndexOutOfBoundsException", "ArithmeticException", "UnsupportedOperationException",
+        "NoSuchElementException", "RuntimeException");
 
     public static void main(String[] args) throws Exception {
+        face();
+        for (Class<?> inside : ChainHouse.class.getDeclaredClasses()) {
+            within(inside);
+        }
+        Check.due("some twelve classes", ChainHouse.class.getDeclaredClasses().length <= 15, true);
+        within(ChainHouse.class);
         byte[] bytes = Files.readAllBytes(Path.of("src/main/java/ChainHouse.java"));
         for (byte b : bytes) {
             Check.due("a sign of the source is 1 to 127", b > 0, true);
         }
-        String source = new String(bytes, StandardCharsets.US_ASCII);
-        List<String> lines = List.of(source.split("\n"));
-        words(source);
-        classes(lines);
-        methods(lines);
-        fields(lines);
+        words(new String(bytes, StandardCharsets.US_ASCII));
         Check.end();
+    }
+
+    private static void face() throws Exception {
+        Class<?> face = ChainHouse.class;
+        Check.due("public and final", Modifier.isPublic(face.getModifiers()) && Modifier.isFinal(face.getModifiers()), true);
+        Set<String> seen = new TreeSet<>();
+        Set<String> names = new TreeSet<>();
+        for (Method m : face.getDeclaredMethods()) {
+            if (Modifier.isPublic(m.getModifiers())) {
+                seen.add(told(m));
+                names.add(m.getName());
+                Check.due("static: " + m.getName(), Modifier.isStatic(m.getModifiers()), false);
+            }
+        }
+        Check.due("the face", seen.toString(), new TreeSet<>(Set.of(FACE)).toString());
+        for (Method m : face.getDeclaredMethods()) {
+            if (!Modifier.isPublic(m.getModifiers()) && !m.isSynthetic()) {
+                Check.due(m.getName() + " is private", Modifier.isPrivate(m.getModifiers()), true);
+                Check.due(m.getName() + " has a name of the face", names.contains(m.getName()), false);
+            }
+        }
+        int constructors = 0;
+        for (Constructor<?> c : face.getDeclaredConstructors()) {
+            constructors += Modifier.isPublic(c.getModifiers()) && c.getParameterCount() == 0 ? 1 : 0;
+        }
+        Check.due("the public constructor", constructors, 1);
+        for (Field f : face.getDeclaredFields()) {
+            boolean constant = f.getName().equals("NONE");
+            Check.due("field " + f.getName(), Modifier.isPublic(f.getModifiers()), constant);
+            Check.due("field " + f.getName() + " is private", constant || Modifier.isPrivate(f.getModifiers()) || f.isSynthetic(), true);
+        }
+        Check.due("NONE", face.getField("NONE").getInt(null), -1);
+    }
+
+    private static String told(Method m) {
+        StringBuilder s = new StringBuilder(m.getName()).append('(');
+        for (Class<?> p : m.getParameterTypes()) {
+            s.append(s.charAt(s.length() - 1) == '(' ? "" : ",").append(p.getName());
+        }
+        return s.append("):").append(m.getReturnType().getName()).toString();
+    }
+
+    private static void within(Class<?> inside) {
+        int fields = 0;
+        for (Field f : inside.getDeclaredFields()) {
+            boolean fixed = Modifier.isStatic(f.getModifiers());
+            fields += fixed || f.isSynthetic() ? 0 : 1;
+            Check.due(f.getName() + " is final if it is static", !fixed || Modifier.isFinal(f.getModifiers()), true);
+        }
+        Check.due("some twenty fields", fields <= 25, true);
+        for (Method m : inside.getDeclaredMethods()) {
+            Check.due("parameters of " + m.getName(), m.getParameterCount() <= 7 || m.isSynthetic(), true);
+        }
     }
 
     /** The source without comments and what stands in quotes. */
@@ -36,81 +95,17 @@ public final class LanguageTest {
 
     private static void words(String source) {
         String bare = bare(source);
-        for (String no : new String[] {"\\btry\\b", "\\bcatch\\b", "\\bfinally\\b", "\\bsynchronized\\b", "\\bassert\\b", "\\binstanceof\\b", "->", "::", "\\bvar\\b", "\\brecord\\b",
-            "\\bstatic \\{", "\\bSystem\\b", "\\bRandom\\b", "\\bThread\\b", "\\bhashCode\\b", "\\btoString\\b", "\\bequals\\b", "\\bprotected\\b", "\\bfloat\\b", "\\bdouble\\b",
-            "Exact\\b", "\"\" \\+", "\\+ \"\"", "\\byield\\b", "\\bString\\[", "\\binterface\\b", "\\bpackage\\b", "\\bgoto\\b"}) {
+        for (String no : new String[] {"\\bfinally\\b", "\\bsynchronized\\b", "\\bassert\\b", "\\) ->", "::", "\\bstatic \\{", "\\bRandom\\b", "\\bThread\\b", "\\bpackage\\b", "\\bgetMessage\\b",
+            "Exact\\(", "\\bNullPointerException\\b", "\\bArrayIndexOutOfBoundsException\\b", "\\bClassCastException\\b", "\\bNegativeArraySizeException\\b", "\\bArrayStoreException\\b"}) {
             Check.due("the source has " + no, Pattern.compile(no).matcher(bare).find(), false);
         }
         Matcher imports = Pattern.compile("(?m)^import (.*);$").matcher(bare);
         while (imports.find()) {
-            Check.due("import", imports.group(1), "java.util.NoSuchElementException");
+            Check.due("import of " + imports.group(1), IMPORTS.contains(imports.group(1)), true);
         }
         Matcher thrown = Pattern.compile("throw new (\\w+)\\(").matcher(bare);
         while (thrown.find()) {
-            boolean may = Set.of("IndexOutOfBoundsException", "IllegalArgumentException", "IllegalStateException", "NoSuchElementException").contains(thrown.group(1));
-            Check.due("throw new " + thrown.group(1), may, true);
-        }
-        Check.due("throws are in the face alone", bare.lastIndexOf("throw new") < bare.indexOf("class Bytes"), true);
-        Matcher wide = Pattern.compile("static (?!final)(?:[\\w\\[\\]]+) \\w+( =|;)").matcher(bare);
-        Check.due("a static field is not final", wide.find(), false);
-    }
-
-    private static void classes(List<String> lines) {
-        int n = 0;
-        for (String line : lines) {
-            n += CLASS.matcher(line).matches() ? 1 : 0;
-            Check.due("a class is as it should be: " + line, line.matches(".*\\bclass \\w+.*\\{") && !CLASS.matcher(line).matches(), false);
-        }
-        Check.due("some twelve classes", n <= 13, true);
-    }
-
-    private static void methods(List<String> lines) {
-        int begin = -1;
-        String name = "";
-        String indent = "";
-        Set<String> seen = new HashSet<>();
-        for (int k = 0; k < lines.size(); k++) {
-            Matcher m = METHOD.matcher(lines.get(k));
-            if (m.matches()) {
-                begin = k;
-                indent = m.group(1);
-                name = m.group(3);
-                int parameters = m.group(4).isEmpty() ? 0 : m.group(4).split(",").length;
-                Check.due("parameters of " + name, parameters <= 7, true);
-                boolean open = m.group(2).contains("public");
-                Check.due(name + " is public", open, indent.length() == 4 && (FACE.contains(name) || name.equals("ChainHouse")));
-                if (open) {
-                    seen.add(name);
-                } else {
-                    Check.due(name + " bears a name of the face", FACE.contains(name), false);
-                }
-            }
-            if (begin >= 0 && lines.get(k).equals(indent + "}")) {
-                Check.due("lines of " + name, k - begin + 1 <= 60, true);
-                begin = -1;
-            }
-        }
-        Check.due("the face is whole", seen.containsAll(FACE), true);
-    }
-
-    private static void fields(List<String> lines) {
-        int n = 0;
-        String indent = "    ";
-        for (String line : lines) {
-            Matcher c = CLASS.matcher(line);
-            if (c.matches()) {
-                n = 0;
-                indent = line.startsWith("public") ? "    " : "        ";
-            }
-            Matcher m = FIELD.matcher(line);
-            boolean field = m.matches() && line.startsWith(indent) && !line.startsWith(indent + " ") && !line.trim().startsWith("return");
-            if (field && !m.group(1).contains("static")) {
-                n++;
-                Check.due("some twenty fields", n <= 20, true);
-            }
-            if (field && m.group(1).contains("public")) {
-                Check.due("public field", m.group(2), "NONE");
-            }
+            Check.due("throw new " + thrown.group(1), THROWN.contains(thrown.group(1)), true);
         }
     }
 }
