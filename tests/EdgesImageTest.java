@@ -795,6 +795,21 @@ public final class EdgesImageTest {
         Check.due("PC", x.get(32), 65544);
         Check.due("back", x.back(5), 1);
         Check.due("PC", x.get(32), 65542);
+        // memory stays, of an IMAGE whose last numbers alone are at fault
+        x.spoil(-1, 224, 99);
+        x.spoil(-1, 194, 99);
+        x.spoil(-1, 208, 99);
+        Check.put(x, -1, ROW2 + 8, 4, 65600);
+        Check.put(x, -1, ROW2 + 12, 4, 65600);
+        Check.due("load", x.load(), 29);
+        Check.due("a byte of DATA", x.peek(65568), 5);
+        Check.due("a byte of TEXT", x.peek(65538), good[194] & 255);
+        Check.due("a byte of CONST", x.peek(65552), 1);
+        Check.due("no byte elsewhere", x.peek(65600), 0);
+        Check.due("rights", x.rights(65568), 3);
+        Check.due("rights", x.rights(65600 + 100), 0);
+        Check.due("INPUT", x.state(6), 3);
+        Check.due("HALTS", x.state(8), 1);
         x.cut(-1, 0);
         Check.due("load", x.load(), 1);
         Check.due("place", x.place(), 0);
