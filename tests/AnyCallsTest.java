@@ -88,7 +88,7 @@ public final class AnyCallsTest {
             case 1: x.end(any(r)); break;
             case 2: case 3: case 4: case 5: assemble(x, r, counts); break;
             case 6: x.fault(any(r)); break;
-            case 7: take(x, any(r)); break;
+            case 7: Check.take(x, any(r)); break;
             case 8: x.extend(r.nextInt(8) - 1, any(r), r.nextLong()); break;
             case 9: x.cut(any(r), any(r)); break;
             case 10: case 11: x.spoil(r.nextInt(7) - 1, r.nextInt(700), any(r)); break;
@@ -114,14 +114,6 @@ public final class AnyCallsTest {
             case 37: x.state(any(r)); x.output(any(r)); break;
             case 38: x.rights(any(r)); break;
             default: x.tell(any(r)); x.letter(any(r)); break;
-        }
-    }
-
-    private static void take(ChainHouse x, int unit) {
-        try {
-            x.take(unit);
-        } catch (IndexOutOfBoundsException e) {
-            Check.due("take of unit " + unit, unit < 0 || unit > 5, true);
         }
     }
 

@@ -70,8 +70,8 @@ public final class BasicsTest {
         }
         Check.due("end(1) of a full TEXT", x.end(1), -1);
         Check.due("end(0) of a full TEXT", x.end(0), 3000);
-        Check.due("take", takeOf(x, 6), Check.INDEX);
-        Check.due("take", takeOf(x, -1), Check.INDEX);
+        Check.due("take", Check.take(x, 6), Check.INDEX);
+        Check.due("take", Check.take(x, -1), Check.INDEX);
         Check.due("end(0)", x.end(0), 3000);
         Check.due("take(5)", x.take(5), 3000);
         Check.due("take(5)", x.take(5), 0);
@@ -113,7 +113,7 @@ public final class BasicsTest {
         Check.due("the FILE stays", x.size(3), n);
         Check.due("end(2)", x.end(2), 2);
         Check.due("assemble", Check.assemble(x, 6), Check.INDEX);
-        Check.due("take", takeOf(x, 6), Check.INDEX);
+        Check.due("take", Check.take(x, 6), Check.INDEX);
         Check.due("fault(0) stays", x.fault(0), 9);
         Check.due("fault(1) stays", x.fault(1), 0);
         Check.due("take(3)", x.take(3), 2);
@@ -121,14 +121,6 @@ public final class BasicsTest {
         Check.due("byteAt", x.byteAt(3, 0), 'e');
         Check.due("byteAt", x.byteAt(3, 1), 'f');
         Check.due("size", x.size(3), 2);
-    }
-
-    private static int takeOf(ChainHouse x, int unit) {
-        try {
-            return x.take(unit);
-        } catch (IndexOutOfBoundsException e) {
-            return Check.INDEX;
-        }
     }
 
     /** A unit's FILE, or the IMAGE, that has nearly as many bytes as may be. */

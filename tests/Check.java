@@ -65,6 +65,12 @@ public final class Check {
     public static final int STATE = -1003;
     public static final int ELEMENT = -1004;
 
+    /** The number of an exception, when it is of that very class: the machine's own are of classes below. */
+    private static int thrown(RuntimeException e, Class<?> promised, int number) {
+        due("the exception " + e + " is of the class that is promised", e.getClass() == promised, true);
+        return number;
+    }
+
     /** What assemble() answers, or the number of its exception. */
     public static int assemble(ChainHouse x, int unit, String text) {
         feed(x, text);
@@ -75,9 +81,9 @@ public final class Check {
         try {
             return x.assemble(unit);
         } catch (IndexOutOfBoundsException e) {
-            return INDEX;
+            return thrown(e, IndexOutOfBoundsException.class, INDEX);
         } catch (IllegalArgumentException e) {
-            return ARGUMENT;
+            return thrown(e, IllegalArgumentException.class, ARGUMENT);
         }
     }
 
@@ -113,7 +119,15 @@ public final class Check {
         try {
             return x.check(unit);
         } catch (IndexOutOfBoundsException e) {
-            return INDEX;
+            return thrown(e, IndexOutOfBoundsException.class, INDEX);
+        }
+    }
+
+    public static int take(ChainHouse x, int unit) {
+        try {
+            return x.take(unit);
+        } catch (IndexOutOfBoundsException e) {
+            return thrown(e, IndexOutOfBoundsException.class, INDEX);
         }
     }
 
@@ -121,9 +135,9 @@ public final class Check {
         try {
             return x.link(set, shrinks);
         } catch (IllegalArgumentException e) {
-            return ARGUMENT;
+            return thrown(e, IllegalArgumentException.class, ARGUMENT);
         } catch (IllegalStateException e) {
-            return STATE;
+            return thrown(e, IllegalStateException.class, STATE);
         }
     }
 
@@ -147,7 +161,7 @@ public final class Check {
         try {
             return x.where(half(name, 0), half(name, 8));
         } catch (NoSuchElementException e) {
-            return ELEMENT;
+            return thrown(e, NoSuchElementException.class, ELEMENT);
         }
     }
 

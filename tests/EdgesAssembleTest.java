@@ -136,6 +136,10 @@ public final class EdgesAssembleTest {
             }
         }
         Check.fault("c.addi16sp 2, 16", 12, 0);
+        for (String bad : new String[] {"(sp)", "0(sp)", "%lo(x)(sp)", "\"sp\""}) {
+            Check.fault("c.addi16sp " + bad + ", 16", 12, 0);
+            Check.fault("c.addi4spn a0, " + bad + ", 4", 12, 0);
+        }
         Check.fault("c.lwsp a0, 0", 12, 0);
         Check.fault("c.lwsp a0, sp", 12, 0);
         Check.good("c.lwsp a0, (sp)");
@@ -341,6 +345,13 @@ public final class EdgesAssembleTest {
             Check.fault("1: .globl " + bad, 12, 3);
             Check.fault("1: .equ " + bad + ", 1", 12, 3);
         }
+        for (String bad : new String[] {"x(a0)", "x(sp)", "(x)(a0)", "%hi(x)", "%lo(x)(a0)", "(a0)", "\"x\""}) {
+            Check.fault(".globl " + bad, 12, 0);
+            Check.fault(".weak " + bad, 12, 0);
+            Check.fault(".equ " + bad + ", 1", 12, 0);
+            Check.fault(".comm " + bad + ", 1, 1", 12, 0);
+            Check.fault(".option " + bad.replace("x", "rvc"), 12, 0);
+        }
         Check.good(".globl (x)\n.weak ((x))\n.equ (((y))), 1\n.comm (z), 1, 1");
     }
 
@@ -540,6 +551,13 @@ public final class EdgesAssembleTest {
         Check.fault(".word 5f - 4f\n4:", 19, 6);
         // of one operand
         Check.fault(".word 4f - 5f\n4:", 19, 6);
+        // of several the first, whatever their digits
+        for (String three : new String[] {"4f, 5f, 6f", "6f, 5f, 4f", "5f, 4f, 6f", "5f, 6f, 4f", "4f, 6f, 5f", "6f, 4f, 5f"}) {
+            Check.fault(".word " + three, 19, 6);
+            Check.fault(".word " + three + "\n" + three.charAt(0) + ":", 19, 10);
+            Check.fault(".word " + three + "\n" + three.charAt(0) + ": " + three.charAt(4) + ":", 19, 14);
+            Check.good(".word " + three + "\n4: 5: 6:");
+        }
         // which label is meant
         ChainHouse x = Check.good("1: nop\n1: nop\n.word 1b - ., 1f - .\n1: nop\n1:\n.word 1b - .");
         Check.due("relocations", Check.relocations(x), "0 4 35 1 0; 0 4 39 2 0; 0 8 35 3 0; 0 8 39 2 0; 0 14 35 4 0; 0 14 39 5 0;");
@@ -569,7 +587,7 @@ public final class EdgesAssembleTest {
         String[][] rows = {
             {"a + b", "14"}, {"-a - b", "14"}, {"a - b - b", "14"}, {"a - b + a", "14"}, {"(a - b) - (b - a)", "14"}, {"a - a + b", "0"}, {"a + (b - b)", "0"}, {"a - b + b", "14"}, {"b - (b - a)", "14"}, {"-(-a)", "0"},
             {"-a", "14"}, {"5 - a", "14"}, {"~a", "14"}, {"a * 1", "14"}, {"1 * a", "14"}, {"a / 1", "14"}, {"a % 5", "14"}, {"a << 0", "14"}, {"a >> 0", "14"}, {"a & -1", "14"}, {"a | 0", "14"}, {"a ^ 0", "14"},
-            {"0 | a", "14"}, {"(a - a) * 3", "0"}, {"(a - b) * 0", "14"}, {"~(a - a)", "0"}, {"a + 5 - 7", "0"}, {". - .", "0"}, {". + .", "14"}, {"-. + a", "0"}, {"1 / (a - a)", "14"}, {"a - c - a", "14"}, {"a - a - c", "14"}};
+            {"-a * 1", "14"}, {"1 * -a", "14"}, {"~-a", "14"}, {"(1 - a) << 1", "14"}, {"1 >> -a", "14"}, {"-a & 1", "14"}, {"-a / 1", "14"}, {"-a + a", "0"}, {"5 - a + a", "0"}, {"-a + b", "0"}, {"0 | a", "14"}, {"(a - a) * 3", "0"}, {"(a - b) * 0", "14"}, {"~(a - a)", "0"}, {"a + 5 - 7", "0"}, {". - .", "0"}, {". + .", "14"}, {"-. + a", "0"}, {"1 / (a - a)", "14"}, {"a - c - a", "14"}, {"a - a - c", "14"}};
         for (String[] row : rows) {
             String text = ".data\n.word " + row[0];
             if (row[1].equals("0")) {

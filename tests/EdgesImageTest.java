@@ -609,6 +609,16 @@ public final class EdgesImageTest {
         Check.due("run", x.run(1), 1);
         Check.due("PC", x.get(32), 65536 + 4096);
         Check.due("step", x.step(), 1);
+        // a NOTE may have more than 4096 bytes as far as 17 goes: it meets what is ahead
+        int row = 148;
+        int begin = Check.number(x, -1, row + 4, 4);
+        int bytes = Check.number(x, -1, row + 16, 4);
+        Check.put(x, -1, row + 4, 4, Check.number(x, -1, 52 + 4, 4));
+        Check.put(x, -1, row + 16, 4, 4097);
+        Check.due("a NOTE of 4097 bytes", x.load(), 19);
+        Check.due("place", x.place(), row + 4);
+        Check.put(x, -1, row + 4, 4, begin);
+        Check.put(x, -1, row + 16, 4, bytes);
         // the ENTRY there, and a long word there
         int note = Check.number(x, -1, 148 + 4, 4);
         Check.due("NOTE's bytes", Check.number(x, -1, 148 + 16, 4), 28 + 256);

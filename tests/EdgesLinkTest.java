@@ -31,6 +31,7 @@ public final class EdgesLinkTest {
         lowWords();
         nearLowWords();
         wrongWords();
+        unitsAndNumbers();
         places();
         dataNumbers();
         marks();
@@ -892,6 +893,28 @@ public final class EdgesLinkTest {
         x = units(".option norelax\n" + START + "call _start");
         Check.put(x, 0, text(x, 0) + 4, 4, 0x13);
         Check.linkFault(x, 1, true, 7, 0, 0);
+        // 24 and 25, whose symbol is as it should be
+        int[] loads = {0x67, 0x03, 0x5003, 0x13, 0x7013};
+        int[] stores = {0x23, 0x1023, 0x2023};
+        for (int w : words) {
+            for (int kind = 24; kind <= 25; kind++) {
+                boolean good = false;
+                for (int r : kind == 24 ? loads : stores) {
+                    good = good || r == w;
+                }
+                for (int r : kind == 24 ? right[4] : right[5]) {
+                    good = good || r == w;
+                }
+                x = units(START + "c.nop\n1: auipc a0, %pcrel_hi(_start)\n" + (kind == 24 ? "addi a0, a0, %pcrel_lo(1b)" : "sw a0, %pcrel_lo(1b)(a0)") + "\n.zero 4");
+                Check.put(x, 0, text(x, 0) + 6, 4, w);
+                Check.due("check", x.check(0), 0);
+                if (good) {
+                    Check.due("link with " + Integer.toHexString(w), Check.link(x, 1, true) > 0, true);
+                } else {
+                    Check.linkFault(x, 1, true, 7, 0, 2);
+                }
+            }
+        }
         // 7 ahead of 8
         x = units(START + "nop\nj _start + 1");
         Check.linkFault(x, 1, true, 8, 0, 0);
@@ -905,6 +928,47 @@ public final class EdgesLinkTest {
         Check.linkFault(x, 1, true, 7, 0, 0);
         // where a word was made smaller its kind isn't asked again
         linked(true, START + "call _start\nla a0, _start\nlui a0, %hi(_start)");
+    }
+
+    /** UNIT and NUMBER of each sort of fault of a relocation: the second UNIT's third one. */
+    private static void unitsAndNumbers() {
+        String head = "fence\nj _start\nj _start\n.option norelax\n";
+        String k = "\n.globl k\n.equ k, -2147483648";
+        String[] bad = {"beq a0, a1, _start + 1", "jal _start + 1", "c.j _start + 1", "c.beqz a0, _start + 1", "call k", "la a0, k", "lui a0, %hi(k - 1)"};
+        for (String one : bad) {
+            ChainHouse x = units(START + "nop", head + one + k);
+            Check.linkFault(x, 3, true, 8, 1, 2);
+            Check.linkFault(x, 3, false, 8, 1, 2);
+            Check.put(x, 1, text(x, 1) + 12, 4, 0x73);
+            // the last START may not be SHORT any more
+            Check.put(x, 1, 36, 4, 0);
+            Check.linkFault(x, 3, true, 7, 1, 2);
+        }
+        String[] wrong = {"call _start", "lw a0, %lo(_start)(a0)", "sw a0, %lo(_start)(a0)", "addi a0, a0, %pcrel_lo(_start)", "lui a0, %hi(_start)", "auipc a0, %pcrel_hi(_start)"};
+        for (String one : wrong) {
+            ChainHouse x = units(START + "nop", head + one);
+            Check.put(x, 1, text(x, 1) + 12, 4, 0x73);
+            Check.linkFault(x, 3, true, 7, 1, 2);
+        }
+        ChainHouse x = units(START + "nop", head + "call _start");
+        Check.put(x, 1, text(x, 1) + 16, 4, 0x73);
+        Check.linkFault(x, 3, true, 7, 1, 2);
+        // those that become pieces
+        for (String one : new String[] {"call _start", "la a0, _start", "lui a0, %hi(_start)"}) {
+            x = units(START + "nop", head + ".option relax\n" + one);
+            Check.put(x, 1, text(x, 1) + 12, 4, 0x73);
+            Check.linkFault(x, 3, true, 7, 1, 2);
+            Check.linkFault(x, 3, false, 7, 1, 2);
+        }
+        x = units(START + "nop", head + ".byte 1\n.align 2\n.byte 1, 2, 3");
+        Check.linkFault(x, 3, true, 8, 1, 2);
+        // a place within another's piece, 24 with a wrong word
+        x = units(START + "nop", "fence\n.option relax\ncall _start\n.word _start");
+        Check.put(x, 1, rela(x, 1, 0) + 24, 4, 6);
+        Check.linkFault(x, 3, true, 7, 1, 2);
+        x = units(START + "nop", "fence\n1: auipc a0, %pcrel_hi(_start)\naddi a0, a0, %pcrel_lo(1b)");
+        Check.put(x, 1, text(x, 1) + 8, 4, 0x73);
+        Check.linkFault(x, 3, true, 7, 1, 2);
     }
 
     /** 7: a relocation whose bytes are not all in one piece that is PLAIN. */

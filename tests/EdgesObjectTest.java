@@ -804,6 +804,9 @@ public final class EdgesObjectTest {
         x.spoil(3, entry(9) + 28, 77);
         Check.due("check", x.check(3), 28);
         Check.due("PLACE", x.object(5, 0, 0), entry(9) + 28);
+        for (int what : new int[] {-1, 1, 2, 2147483647, -2147483648}) {
+            Check.due("what " + what + " of list 5", x.object(5, 0, what), -1);
+        }
         Check.due("check", Check.check(x, 6), Check.INDEX);
         Check.due("PLACE stays", x.object(5, 0, 0), entry(9) + 28);
         Check.due("the symbols stay", Check.symbols(x), symbols);

@@ -170,6 +170,10 @@ public final class EdgesTextTest {
         Check.fault(".word 0b12", 5, 9);
         Check.fault(".word 0x1g", 5, 9);
         Check.fault(".word 1a", 5, 7);
+        Check.fault(".word 1x5", 5, 7);
+        Check.fault(".word 10x5", 5, 8);
+        Check.fault(".word 1b1", 5, 7);
+        Check.fault(".word 10b1", 5, 8);
         Check.fault(".word 1_", 5, 7);
         Check.fault(".word 1.", 5, 7);
         Check.fault(".word 1$", 1, 7);

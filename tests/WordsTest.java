@@ -391,7 +391,8 @@ public final class WordsTest {
         {"add a0, a0, a1", "952e"}, {"add a0, a1, a0", "952e"}, {"add a0, zero, a1", "852e"}, {"add a0, a1, zero", "00058533"},
         {"add a0, zero, a0", "852a"}, {"add a0, a0, zero", "00050533"}, {"add zero, a0, a1", "00b50033"}, {"add a0, a1, a2", "00c58533"},
         {"sub a0, a0, a1", "8d0d"}, {"sub a0, a1, a0", "40a58533"}, {"sub t0, t0, a1", "40b282b3"},
-        {"xor a0, a1, a0", "8d2d"}, {"or a0, a0, a1", "8d4d"}, {"and s1, a5, s1", "8cfd"}, {"and t0, t0, a0", "00a2f2b3"},
+        {"xor a0, a1, a0", "8d2d"}, {"or a0, a1, a0", "8d4d"}, {"and a0, a1, a0", "8d6d"}, {"xor a0, a0, a1", "8d2d"}, {"and a0, a0, a1", "8d6d"},
+        {"or a0, a1, a2", "00c5e533"}, {"or t0, a1, t0", "0055e2b3"}, {"or a0, t0, a0", "00a2e533"}, {"sll a0, a1, a0", "00a59533"}, {"slt a0, a1, a0", "00a5a533"}, {"or a0, a0, a1", "8d4d"}, {"and s1, a5, s1", "8cfd"}, {"and t0, t0, a0", "00a2f2b3"},
         {"jalr zero, 0(ra)", "8082"}, {"jalr ra, 0(t0)", "9282"}, {"jalr ra, 2(t0)", "002280e7"}, {"jalr zero, 0(zero)", "00000067"},
         {"jalr t0, 0(ra)", "000082e7"}, {"ebreak", "9002"}, {"ecall", "00000073"}, {"fence", "0ff0000f"}, {"mul a0, a0, a1", "02b50533"},
     };
