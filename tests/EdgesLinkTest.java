@@ -829,6 +829,22 @@ public final class EdgesLinkTest {
             told(linked(true, text), BASE + 2 + (near ? 0 : 4), near ? "addi a1, zero, " + v : "addi a1, a0, " + low, near ? "sw a1, " + v + "(zero)" : "sw a1, " + low + "(a0)", near ? "jalr a1, " + v + "(zero)" : "jalr a1, " + low + "(a0)");
             told(linked(false, text), BASE + 6, "addi a1, a0, " + low, "sw a1, " + low + "(a0)");
         }
+        // in each UNIT its own
+        String[] three = new String[3];
+        for (int u = 0; u < 3; u++) {
+            three[u] = (u == 0 ? START : "") + ".option norelax\n.globl f" + u + "\nf" + u + ": la a" + u + ", d + " + 4 * u + "\nla t1, f" + u + "\nsw a" + u + ", d, t2\n" + (u == 0 ? ".data\n.globl d\nd: .word 1, 2, 3" : "");
+        }
+        ChainHouse y = linked(true, three);
+        y.run(3);
+        for (int u = 0; u < 3; u++) {
+            int f = Check.where(y, "f" + u);
+            y.set(32, f);
+            y.set(33, 0);
+            y.run(3);
+            Check.due("la of d", y.get(10 + u), Check.where(y, "d") + 4 * u);
+            Check.due("la of f", y.get(6), f);
+            Check.due("stored", word(y, Check.where(y, "d")), Check.where(y, "d") + 4 * u);
+        }
         // the first 23 at that place
         ChainHouse x = units(".option norelax\n" + START + "1: auipc a0, %pcrel_hi(d)\naddi a0, a0, %pcrel_lo(1b)\nauipc a1, %pcrel_hi(d + 4096 + 8)\n.data\nd: .word 1");
         int at = rela(x, 0, 0);
