@@ -4,36 +4,7 @@ import java.util.Random;
 
 /** Section 1: all 65,536 short words, and many long ones, told and assembled as the document's own rows of bits say. */
 public final class EveryWordTest {
-    private static final String[] REGISTERS = ("zero ra sp gp tp t0 t1 t2 s0 s1 a0 a1 a2 a3 a4 a5 a6 a7 s2 s3 s4 s5 s6 s7 s8 s9 s10 s11 t3 t4 t5 t6").split(" ");
-    /** Name; the bits from 15 down to 0 as the document tells them; the sign bit of i (0 for none); what else must be; the operands. */
-    private static final String[][] SHORTS = {
-        {"c.addi4spn", "000 i5 i4 i9 i8 i7 i6 i2 i3 d' 00", "0", "i", "d, sp, I"},
-        {"c.lw", "010 i5 i4 i3 a' i2 i6 d' 00", "0", "", "d, O(a)"},
-        {"c.sw", "110 i5 i4 i3 a' i2 i6 b' 00", "0", "", "b, O(a)"},
-        {"c.nop", "0000000000000001", "0", "", ""},
-        {"c.addi", "000 i5 d i4 i3 i2 i1 i0 01", "5", "di", "d, I"},
-        {"c.jal", "001 i11 i4 i9 i8 i10 i6 i7 i3 i2 i1 i5 01", "11", "", "P"},
-        {"c.li", "010 i5 d i4 i3 i2 i1 i0 01", "5", "d", "d, I"},
-        {"c.addi16sp", "011 i9 00010 i4 i6 i8 i7 i5 01", "9", "i", "sp, I"},
-        {"c.lui", "011 i5 d i4 i3 i2 i1 i0 01", "5", "dil", "d, X"},
-        {"c.srli", "100 0 00 d' i4 i3 i2 i1 i0 01", "0", "i", "d, I"},
-        {"c.srai", "100 0 01 d' i4 i3 i2 i1 i0 01", "0", "i", "d, I"},
-        {"c.andi", "100 i5 10 d' i4 i3 i2 i1 i0 01", "5", "", "d, I"},
-        {"c.sub", "100 0 11 d' 00 b' 01", "0", "", "d, b"},
-        {"c.xor", "100 0 11 d' 01 b' 01", "0", "", "d, b"},
-        {"c.or", "100 0 11 d' 10 b' 01", "0", "", "d, b"},
-        {"c.and", "100 0 11 d' 11 b' 01", "0", "", "d, b"},
-        {"c.j", "101 i11 i4 i9 i8 i10 i6 i7 i3 i2 i1 i5 01", "11", "", "P"},
-        {"c.beqz", "110 i8 i4 i3 a' i7 i6 i2 i1 i5 01", "8", "", "a, P"},
-        {"c.bnez", "111 i8 i4 i3 a' i7 i6 i2 i1 i5 01", "8", "", "a, P"},
-        {"c.slli", "000 0 d i4 i3 i2 i1 i0 10", "0", "di", "d, I"},
-        {"c.lwsp", "010 i5 d i4 i3 i2 i7 i6 10", "0", "d", "d, O(sp)"},
-        {"c.jr", "100 0 a 00000 10", "0", "a", "a"},
-        {"c.mv", "100 0 d b 10", "0", "db", "d, b"},
-        {"c.ebreak", "1001000000000010", "0", "", ""},
-        {"c.jalr", "100 1 a 00000 10", "0", "a", "a"},
-        {"c.add", "100 1 d b 10", "0", "db", "d, b"},
-        {"c.swsp", "110 i5 i4 i3 i2 i7 i6 b 10", "0", "", "b, O(sp)"}};
+    private static final String[] REGISTERS = WordsModel.REGISTERS;
 
     public static void main(String[] args) {
         everyShort();
@@ -43,37 +14,15 @@ public final class EveryWordTest {
 
     /** The text of a short word by one of the rows; null when it isn't of that kind. */
     private static String by(String[] row, int w, int at) {
-        int bit = 15;
+        int[] p = WordsModel.parts(row, w);
+        if (p == null) {
+            return null;
+        }
         int[] part = new int[128];
-        int i = 0;
-        for (String token : row[1].split(" ")) {
-            char c = token.charAt(0);
-            if (c == 'i') {
-                i |= (w >> bit & 1) << Integer.parseInt(token.substring(1));
-                bit--;
-            } else if (c == 'd' || c == 'a' || c == 'b') {
-                int n = token.length() == 2 ? 3 : 5;
-                part[c] = (w >> bit - n + 1 & (1 << n) - 1) + (n == 3 ? 8 : 0);
-                bit -= n;
-            } else {
-                for (int k = 0; k < token.length(); k++) {
-                    if ((w >> bit & 1) != token.charAt(k) - '0') {
-                        return null;
-                    }
-                    bit--;
-                }
-            }
-        }
-        int sign = Integer.parseInt(row[2]);
-        if (sign > 0 && (i >> sign & 1) != 0) {
-            i -= 2 << sign;
-        }
-        for (char c : row[3].toCharArray()) {
-            if (c == 'i' ? i == 0 : c == 'l' ? part['d'] == 2 : part[c] == 0) {
-                return null;
-            }
-        }
-        return row[0] + (row[4].isEmpty() ? "" : " ") + operands(row[4], part, row[3].contains("l") ? i & 0xfffff : i, at);
+        part['d'] = p[0];
+        part['a'] = p[1];
+        part['b'] = p[2];
+        return row[0] + (row[4].isEmpty() ? "" : " ") + operands(row[4], part, p[3], at);
     }
 
     private static String operands(String form, int[] part, int i, int at) {
@@ -82,7 +31,7 @@ public final class EveryWordTest {
     }
 
     private static String textOf(int w, int at) {
-        for (String[] row : SHORTS) {
+        for (String[] row : WordsModel.SHORTS) {
             String text = by(row, w, at);
             if (text != null) {
                 return text;
