@@ -1,4 +1,6 @@
+import java.io.ByteArrayOutputStream;
 import java.math.BigInteger;
+import java.nio.charset.StandardCharsets;
 import java.util.ArrayDeque;
 import java.util.ArrayList;
 import java.util.Arrays;
@@ -575,7 +577,7 @@ public final class AssemblerModel {
         for (Symbol s : symbols) {
             s.bind = s.where < 0 && s.bind == 0 ? 1 : s.bind;
         }
-        if (fileSize() > 8192) {
+        if (file().length > 8192) {
             throw new Fault(20, text.length());
         }
     }
@@ -1044,48 +1046,141 @@ public final class AssemblerModel {
 
     // ---- the FILE
 
-    private static int up(int at, int multiple) {
-        return (at + multiple - 1) / multiple * multiple;
-    }
-
-    private static int strings(List<String> all) {
+    /** STRINGS of names; places tells where each stands. */
+    private static String strings(List<String> all, List<Integer> places) {
         StringBuilder s = new StringBuilder("\0");
         for (String name : all) {
             if (s.indexOf(name + "\0") < 0) {
                 s.append(name).append('\0');
             }
+            places.add(s.indexOf(name + "\0"));
         }
-        return s.length();
+        return s.toString();
     }
 
-    /** How many bytes the FILE has. */
-    public int fileSize() {
-        List<String> entries = new ArrayList<>(List.of(".text", ".rodata", ".data", ".bss"));
-        int at = 52;
-        for (int s = 0; s < 3; s++) {
-            at = up(at, alignments[s]) + bytes.get(s).size();
+    private static void number(ByteArrayOutputStream out, long v, int width) {
+        for (int k = 0; k < width; k++) {
+            out.write((int) (v >> 8 * k) & 255);
         }
+    }
+
+    private static void fill(ByteArrayOutputStream out, int multiple) {
+        while (out.size() % multiple != 0) {
+            out.write(0);
+        }
+    }
+
+    private boolean anyShort() {
+        for (int s : starts) {
+            if ((bytes.get(0).get(s) & 3) != 3) {
+                return true;
+            }
+        }
+        return false;
+    }
+
+    /** The FILE's bytes. */
+    public byte[] file() {
+        List<String> entries = new ArrayList<>(List.of(".text", ".rodata", ".data", ".bss"));
+        List<int[]> rows = new ArrayList<>();
+        ByteArrayOutputStream out = new ByteArrayOutputStream();
+        out.writeBytes(new byte[52]);
+        for (int s = 0; s < 3; s++) {
+            fill(out, alignments[s]);
+            rows.add(new int[] {1, new int[] {6, 2, 3}[s], 0, out.size(), bytes.get(s).size(), 0, 0, alignments[s], 0});
+            for (int b : bytes.get(s)) {
+                out.write(b);
+            }
+        }
+        rows.add(new int[] {8, 3, 0, out.size(), bss, 0, 0, alignments[3], 0});
         if (!starts.isEmpty()) {
             entries.add(".starts");
-            at = up(at, 2) + 2 * starts.size();
+            fill(out, 2);
+            rows.add(new int[] {1, 0, 0, out.size(), 2 * starts.size(), 0, 0, 2, 2});
+            for (int s : starts) {
+                number(out, s, 2);
+            }
+        }
+        writeRelocations(out, entries, rows);
+        fill(out, 4);
+        entries.addAll(List.of(".symtab", ".strtab", ".shstrtab"));
+        List<String> names = new ArrayList<>();
+        int locals = 1;
+        for (Symbol s : inOrder()) {
+            names.add(s.name);
+            locals += s.bind == 0 ? 1 : 0;
+        }
+        rows.add(new int[] {2, 0, 0, out.size(), 16 * names.size() + 16, entries.indexOf(".strtab") + 1, locals, 4, 16});
+        List<Integer> places = new ArrayList<>();
+        String strings = strings(names, places);
+        out.writeBytes(new byte[16]);
+        for (int k = 0; k < names.size(); k++) {
+            Symbol s = inOrder().get(k);
+            number(out, places.get(k), 4);
+            number(out, s.value, 4);
+            number(out, s.size, 4);
+            number(out, 16 * s.bind, 2);
+            number(out, s.where == 4 ? 65521 : s.where == 5 ? 65522 : s.where + 1, 2);
+        }
+        rows.add(new int[] {3, 0, 0, out.size(), strings.length(), 0, 0, 1, 0});
+        out.writeBytes(strings.getBytes(StandardCharsets.ISO_8859_1));
+        List<Integer> entryPlaces = new ArrayList<>();
+        strings = strings(entries, entryPlaces);
+        rows.add(new int[] {3, 0, 0, out.size(), strings.length(), 0, 0, 1, 0});
+        out.writeBytes(strings.getBytes(StandardCharsets.ISO_8859_1));
+        fill(out, 4);
+        int table = out.size();
+        out.writeBytes(new byte[40]);
+        for (int e = 0; e < entries.size(); e++) {
+            number(out, entryPlaces.get(e), 4);
+            for (int v : rows.get(e)) {
+                number(out, v, 4);
+            }
+        }
+        return withHeader(out.toByteArray(), table, entries.size() + 1);
+    }
+
+    private void writeRelocations(ByteArrayOutputStream out, List<String> entries, List<int[]> rows) {
+        List<Symbol> order = inOrder();
+        int symtab = entries.size() + 1;
+        for (int s = 0; s < 3; s++) {
+            int section = s;
+            symtab += relocations.stream().anyMatch(r -> r[0] == section) ? 1 : 0;
         }
         for (int s = 0; s < 3; s++) {
             int n = 0;
             for (int[] r : relocations) {
                 n += r[0] == s ? 1 : 0;
             }
-            if (n > 0) {
-                entries.add(".rela" + entries.get(s));
-                at = up(at, 4) + 12 * n;
+            if (n == 0) {
+                continue;
+            }
+            fill(out, 4);
+            entries.add(".rela" + entries.get(s));
+            rows.add(new int[] {4, 64, 0, out.size(), 12 * n, symtab, s + 1, 4, 12});
+            for (int[] r : relocations) {
+                if (r[0] == s) {
+                    number(out, r[1], 4);
+                    number(out, 256 * (r[3] < 0 ? 0 : order.indexOf(symbols.get(r[3])) + 1) + r[2], 4);
+                    number(out, r[4], 4);
+                }
             }
         }
-        entries.addAll(List.of(".symtab", ".strtab", ".shstrtab"));
-        List<String> names = new ArrayList<>();
-        for (Symbol s : inOrder()) {
-            names.add(s.name);
+    }
+
+    private byte[] withHeader(byte[] file, int table, int entries) {
+        ByteArrayOutputStream header = new ByteArrayOutputStream();
+        header.writeBytes(new byte[] {127, 69, 76, 70, 1, 1, 1, 0, 0, 0, 0, 0, 0, 0, 0, 0});
+        number(header, 1, 2);
+        number(header, 243, 2);
+        for (int v : new int[] {1, 0, 0, table, anyShort() ? 1 : 0}) {
+            number(header, v, 4);
         }
-        at = up(at, 4) + 16 * (symbols.size() + 1) + strings(names) + strings(entries);
-        return up(at, 4) + 40 * (entries.size() + 1);
+        for (int v : new int[] {52, 0, 0, 40, entries, entries - 1}) {
+            number(header, v, 2);
+        }
+        System.arraycopy(header.toByteArray(), 0, file, 0, 52);
+        return file;
     }
 
     /** The symbols as they are written: local ones first. */

@@ -145,7 +145,11 @@ public final class UnitsTest {
         if (fault != 0 || size < 0) {
             return;
         }
-        Check.due(told + ": size", size, model.fileSize());
+        byte[] file = model.file();
+        Check.due(told + ": size", size, file.length);
+        for (int at = size % 17; at < size; at += 17) {
+            Check.due(told + ": byte " + at, x.byteAt(0, at), file[at] & 255);
+        }
         Check.due(told + ": check", x.check(0), 0);
         compare(told, x, model);
     }

@@ -153,4 +153,87 @@ public final class WordsModel {
             default: return 0x00100073;
         }
     }
+
+    /** The TEXT of a word at a place. */
+    public static String text(int bits, int at) {
+        return (bits & 3) == 3 ? longText(bits, at) : shortText(bits & 0xffff, at);
+    }
+
+    /** The text of a short word by one of the rows; null when it isn't of that kind. */
+    private static String by(String[] row, int w, int at) {
+        int[] p = parts(row, w);
+        if (p == null) {
+            return null;
+        }
+        int[] part = new int[128];
+        part['d'] = p[0];
+        part['a'] = p[1];
+        part['b'] = p[2];
+        return row[0] + (row[4].isEmpty() ? "" : " ") + operands(row[4], part, p[3], at);
+    }
+
+    private static String operands(String form, int[] part, int i, int at) {
+        return form.replace("I", "" + i).replace("O", "" + i).replace("P", "0x" + Integer.toHexString(at + i)).replace("X", "0x" + Integer.toHexString(i))
+            .replaceAll("\\bd\\b", REGISTERS[part['d']]).replaceAll("\\ba\\b", REGISTERS[part['a']]).replaceAll("\\bb\\b", REGISTERS[part['b']]);
+    }
+
+    private static String shortText(int w, int at) {
+        for (String[] row : SHORTS) {
+            String text = by(row, w, at);
+            if (text != null) {
+                return text;
+            }
+        }
+        return ".half 0x" + Integer.toHexString(w);
+    }
+
+    private static String longText(int w, int at) {
+        String none = ".word 0x" + Integer.toHexString(w);
+        int f3 = w >> 12 & 7;
+        int f7 = w >>> 25;
+        int[] part = new int[128];
+        part['d'] = w >> 7 & 31;
+        part['a'] = w >> 15 & 31;
+        part['b'] = w >> 20 & 31;
+        int i = w >> 20;
+        String[] branches = {"beq", "bne", "", "", "blt", "bge", "bltu", "bgeu"};
+        String[] loads = {"lb", "lh", "lw", "", "lbu", "lhu", "", ""};
+        String[] stores = {"sb", "sh", "sw", "", "", "", "", ""};
+        String[] immediates = {"addi", "", "slti", "sltiu", "xori", "", "ori", "andi"};
+        String[] plain = {"add", "sll", "slt", "sltu", "xor", "srl", "or", "and"};
+        String[] multiplying = {"mul", "mulh", "mulhsu", "mulhu", "div", "divu", "rem", "remu"};
+        String name = "";
+        String form = "";
+        switch (w & 127) {
+            case 0x37: name = "lui"; form = "d, X"; i = w >>> 12; break;
+            case 0x17: name = "auipc"; form = "d, X"; i = w >>> 12; break;
+            case 0x6f:
+                name = "jal";
+                form = "d, P";
+                i = (w >> 31) << 20 | (w >> 21 & 1023) << 1 | (w >> 20 & 1) << 11 | (w >> 12 & 255) << 12;
+                break;
+            case 0x67: name = f3 == 0 ? "jalr" : ""; form = "d, O(a)"; break;
+            case 0x63:
+                name = branches[f3];
+                form = "a, b, P";
+                i = (w >> 31) << 12 | (w >> 25 & 63) << 5 | (w >> 8 & 15) << 1 | (w >> 7 & 1) << 11;
+                break;
+            case 0x03: name = loads[f3]; form = "d, O(a)"; break;
+            case 0x23: name = stores[f3]; form = "b, O(a)"; i = (w >> 25) << 5 | w >> 7 & 31; break;
+            case 0x13:
+                name = f3 == 1 ? f7 == 0 ? "slli" : "" : f3 == 5 ? f7 == 0 ? "srli" : f7 == 32 ? "srai" : "" : immediates[f3];
+                form = "d, a, I";
+                i = f3 == 1 || f3 == 5 ? w >> 20 & 31 : i;
+                break;
+            case 0x33:
+                name = f7 == 0 ? plain[f3] : f7 == 1 ? multiplying[f3] : f7 == 32 && f3 == 0 ? "sub" : f7 == 32 && f3 == 5 ? "sra" : "";
+                form = "d, a, b";
+                break;
+            default: break;
+        }
+        if (w == 0x0ff0000f || w == 0x73 || w == 0x00100073) {
+            return w == 0x73 ? "ecall" : w == 0x00100073 ? "ebreak" : "fence";
+        }
+        return name.isEmpty() ? none : name + " " + operands(form, part, i, at);
+    }
 }
