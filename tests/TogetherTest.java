@@ -36,7 +36,8 @@ public final class TogetherTest {
     private final List<int[]> undo = new ArrayList<>();
 
     private TogetherTest(int seed, int[] seen) {
-        r = new Random(seed);
+        // seeds that follow one another begin nearly alike
+        r = new Random(seed * 0x9e3779b97f4a7c15L);
         this.seed = "seed " + seed;
         this.seen = seen;
     }
@@ -47,7 +48,7 @@ public final class TogetherTest {
             new TogetherTest(seed, seen).run();
         }
         for (int k = 0; k < SEEN.length; k++) {
-            System.out.println(SEEN[k] + " " + seen[k]);Check.due(SEEN[k] + " (" + seen[k] + ")", seen[k] > 200, true);
+            Check.due(SEEN[k] + " (" + seen[k] + ")", seen[k] > 200, true);
         }
         Check.end();
     }
